@@ -62,7 +62,7 @@ public final class HandsOrder {
         shape.become(thingText.draft);
         parted.gather(shape.parts);
         recordText.forget();
-        hands.prepare();
+        hands.stale();
         refreshWays();
         return shape.parts;
     }
@@ -118,8 +118,8 @@ public final class HandsOrder {
             case 2: return orders.count[set];
             case 3: return orders.least[set];
             case 4: return theNet.rounds[set];
-            case 5: return hands.needed(set);
-            case 6: return hands.tips(set) ? 1 : 0;
+            case 5: return hands.need[set];
+            case 6: return hands.tipping(set);
             case 7: return theNet.isLive(set) ? 1 : 0;
             default: return NONE;
         }
@@ -176,6 +176,7 @@ public final class HandsOrder {
         if (!shape.isPart(p) || !shape.isPart(q) || p == q || what < 0 || what > 1) {
             return NONE;
         }
+        hands.refresh();
         otherOrders.fill(ways, 1 << p | 1 << q);
         return otherOrders.ofWhole(what);
     }
@@ -226,6 +227,7 @@ public final class HandsOrder {
 
     public long safe(int what) {
         if (what == 0 || what == 1) {
+            hands.refresh();
             otherOrders.fill(swollenWays, 0);
             return otherOrders.ofWhole(what);
         }
@@ -240,7 +242,11 @@ public final class HandsOrder {
     }
 
     public int holding(int heap) {
-        return shape.isHeap(heap) ? hands.leastHeld(heap) : NONE;
+        if (!shape.isHeap(heap)) {
+            return NONE;
+        }
+        hands.refresh();
+        return hands.held[heap];
     }
 
     public long oneByOne(int heap) {
@@ -308,6 +314,7 @@ public final class HandsOrder {
 
     private void freshOrders() {
         if (!orders.fresh) {
+            hands.refresh();
             orders.fill(ways, 0);
         }
     }
@@ -547,6 +554,10 @@ public final class HandsOrder {
             return isCell(x, y, z) && (planes[z] >>> EDGE * y + x & 1) != 0;
         }
 
+        private static boolean isCell(int x, int y, int z) {
+            return x >= 0 && x < EDGE && y >= 0 && y < EDGE && z >= 0 && z < EDGE;
+        }
+
         void join(Solid other) {
             for (int z = 0; z < EDGE; z++) {
                 planes[z] |= other.planes[z];
@@ -610,10 +621,11 @@ public final class HandsOrder {
             if (Math.abs(dx) > LAST || Math.abs(dy) > LAST || Math.abs(dz) > LAST) {
                 return false;
             }
+            long staying = columns(Math.max(0, -dx), Math.min(LAST, LAST - dx));
             int from = Math.max(0, -dz);
             int to = Math.min(LAST, LAST - dz);
             for (int z = from; z <= to; z++) {
-                if ((movePlane(planes[z], dx, dy) & other.planes[z + dz]) != 0) {
+                if ((movePlane(planes[z] & staying, dx, dy) & other.planes[z + dz]) != 0) {
                     return true;
                 }
             }
@@ -622,8 +634,7 @@ public final class HandsOrder {
 
         private static long movePlane(long plane, int dx, int dy) {
             long rows = dy >= 0 ? plane << EDGE * dy : plane >>> -EDGE * dy;
-            long staying = columns(Math.max(0, -dx), Math.min(LAST, LAST - dx));
-            return dx >= 0 ? (rows & staying) << dx : (rows & staying) >>> -dx;
+            return dx >= 0 ? rows << dx : rows >>> -dx;
         }
 
         private static long columns(int from, int to) {
@@ -726,14 +737,6 @@ public final class HandsOrder {
                 }
             }
             return 0;
-        }
-
-        private static boolean isCell(int x, int y, int z) {
-            return isNumber(x) && isNumber(y) && isNumber(z);
-        }
-
-        private static boolean isNumber(int c) {
-            return c >= 0 && c < EDGE;
         }
     }
 
@@ -904,19 +907,15 @@ public final class HandsOrder {
             draft.clear();
             boxes = 0;
             tape.rewind();
-            for (int k = 0; k <= MOST_BYTES && tape.kind != Tape.END; k++) {
-                if (!readOne()) {
-                    return false;
+            boolean fine = true;
+            for (int k = 0; k <= MOST_BYTES && fine && tape.kind != Tape.END; k++) {
+                if (tape.says("part")) {
+                    fine = readPart();
+                } else {
+                    fine = tape.says("joint") ? readJoint() : tape.refuseToken(1);
                 }
             }
-            return true;
-        }
-
-        private boolean readOne() {
-            if (tape.says("part")) {
-                return readPart();
-            }
-            return tape.says("joint") ? readJoint() : tape.refuseToken(1);
+            return fine;
         }
 
         private boolean readPart() {
@@ -951,26 +950,22 @@ public final class HandsOrder {
             int place = tape.place;
             tape.advance();
             for (int k = 0; k < 2 * AXES; k++) {
-                if (!readBoxNumber(k)) {
-                    return false;
+                if (tape.kind != Tape.NUMBER) {
+                    return tape.refuseToken(1);
                 }
+                if (!fits(k, tape.value)) {
+                    return tape.refuseToken(4);
+                }
+                numbers[k] = tape.value;
+                tape.advance();
             }
             boxes++;
             return fillBox() || tape.refuse(5, place);
         }
 
-        private boolean readBoxNumber(int k) {
-            if (tape.kind != Tape.NUMBER) {
-                return tape.refuseToken(1);
-            }
-            int n = tape.value;
-            boolean fits = k < AXES ? n < EDGE : n > 0 && numbers[k - AXES] + n <= EDGE;
-            if (!fits) {
-                return tape.refuseToken(4);
-            }
-            numbers[k] = n;
-            tape.advance();
-            return true;
+        /** Of the six numbers the last three are lengths, counted from the first three. */
+        private boolean fits(int k, int n) {
+            return k < AXES ? n < EDGE : n > 0 && numbers[k - AXES] + n <= EDGE;
         }
 
         /** False if a part told ahead has one of the cells. */
@@ -1284,11 +1279,14 @@ public final class HandsOrder {
 
         /** The ways on which a cut with this half is good, as bits. */
         int goodWays(int heap, int half) {
+            int rest = heap & ~half;
+            long all = barrers[half];
             int found = 0;
             for (int way = 0; way < WAYS; way++) {
-                if ((barring(half, way) & heap & ~half) == 0) {
+                if ((all & rest) == 0) {
                     found |= 1 << way;
                 }
+                all >>>= MOST_PARTS;
             }
             return found == 0 || shape.stuckJoint(heap, half) != NONE ? 0 : found;
         }
@@ -1344,17 +1342,37 @@ public final class HandsOrder {
         /** Of each part those on which it lies. */
         private final int[] under = new int[MOST_PARTS];
         private final int[] lowest = new int[MOST_PARTS];
-        /** Of each heap what must be held, and how many hands it needs; NONE as long as nobody asked. */
-        private final int[] held = new int[SETS];
-        private final int[] need = new int[SETS];
+        /** Of each heap what must be held, and how many hands it needs. */
+        final int[] held = new int[SETS];
+        final int[] need = new int[SETS];
+        private boolean fresh = false;
 
         Hands(Shape shape) {
             this.shape = shape;
         }
 
-        void prepare() {
-            Arrays.fill(held, NONE);
-            Arrays.fill(need, NONE);
+        void stale() {
+            fresh = false;
+        }
+
+        void refresh() {
+            if (fresh) {
+                return;
+            }
+            findUnder();
+            for (int heap = 1; heap <= shape.whole(); heap++) {
+                int floor = floorOf(heap);
+                held[heap] = findHeld(heap, onFloor(heap, floor));
+                need[heap] = Integer.bitCount(held[heap]) + (tips(heap, floor) ? 1 : 0);
+            }
+            fresh = true;
+        }
+
+        int tipping(int heap) {
+            return need[heap] - Integer.bitCount(held[heap]);
+        }
+
+        private void findUnder() {
             for (int p = 0; p < shape.parts; p++) {
                 lowest[p] = Solid.lowest(shape.bodies[p].shadow(2));
                 cells.copy(shape.bodies[p]);
@@ -1368,26 +1386,16 @@ public final class HandsOrder {
             }
         }
 
-        int needed(int heap) {
-            if (need[heap] == NONE) {
-                need[heap] = Integer.bitCount(leastHeld(heap)) + (tips(heap) ? 1 : 0);
+        /** The sets come from the least on, so of those with the fewest the least is kept. */
+        private int findHeld(int heap, int grounded) {
+            if (allRest(heap, grounded)) {
+                return 0;
             }
-            return need[heap];
-        }
-
-        int leastHeld(int heap) {
-            if (held[heap] == NONE) {
-                held[heap] = findHeld(heap);
-            }
-            return held[heap];
-        }
-
-        private int findHeld(int heap) {
-            int grounded = onFloor(heap);
             int best = heap;
-            for (int set = 0; set < heap; set++) {
-                boolean fewer = within(set, heap) && Integer.bitCount(set) < Integer.bitCount(best);
-                if (fewer && allRest(heap, set | grounded)) {
+            int set = 0;
+            for (int left = halvesOf(heap); left > 0; left--) {
+                set = nextHalf(heap, set);
+                if (Integer.bitCount(set) < Integer.bitCount(best) && allRest(heap, set | grounded)) {
                     best = set;
                 }
             }
@@ -1404,8 +1412,7 @@ public final class HandsOrder {
             return floor;
         }
 
-        private int onFloor(int heap) {
-            int floor = floorOf(heap);
+        private int onFloor(int heap, int floor) {
             int found = 0;
             for (int p = 0; p < shape.parts; p++) {
                 if ((heap >> p & 1) != 0 && lowest[p] == floor) {
@@ -1427,12 +1434,12 @@ public final class HandsOrder {
             return resting == heap;
         }
 
-        boolean tips(int heap) {
+        private boolean tips(int heap, int floor) {
             shape.collect(heap, cells);
             int n = cells.count();
             int sumX = cells.doubledSum(0);
             int sumY = cells.doubledSum(1);
-            cells.keep(2, 1 << floorOf(heap));
+            cells.keep(2, 1 << floor);
             return falls(n, sumX, cells.shadow(0)) || falls(n, sumY, cells.shadow(1));
         }
 
@@ -1497,7 +1504,7 @@ public final class HandsOrder {
             int halves = least[half] + least[heap & ~half];
             for (int way = 0; way < WAYS; way++) {
                 if ((good >> way & 1) != 0) {
-                    int cost = halves + prices[way] + prices[HAND] * hands.needed(heap);
+                    int cost = halves + prices[way] + prices[HAND] * hands.need[heap];
                     if (least[heap] == NONE || cost < least[heap]) {
                         least[heap] = cost;
                         bestHalf[heap] = half;
