@@ -999,7 +999,7 @@ public final class HandsOrder {
                 }
                 pair |= 1 << p;
             }
-            return readSpot(pair);
+            return readSpot(pair) && passSemicolon();
         }
 
         private boolean readSpot(int pair) {
@@ -1021,7 +1021,7 @@ public final class HandsOrder {
             }
             draft.addJoint(pair, EDGE * spot + way);
             tape.advance();
-            return passSemicolon();
+            return true;
         }
 
         private boolean passSemicolon() {
@@ -1277,7 +1277,10 @@ public final class HandsOrder {
             return (barring(half, way) & heap & ~half) == 0 && shape.stuckJoint(heap, half) == NONE;
         }
 
-        /** The ways on which a cut with this half is good, as bits. */
+        /**
+         * The ways on which a cut with this half is good, as bits. Where a half can go the rest can go on
+         * the way back, so of a parting it is enough to ask one half.
+         */
         int goodWays(int heap, int half) {
             int rest = heap & ~half;
             long all = barrers[half];
@@ -1289,11 +1292,6 @@ public final class HandsOrder {
                 all >>>= MOST_PARTS;
             }
             return found == 0 || shape.stuckJoint(heap, half) != NONE ? 0 : found;
-        }
-
-        /** Where a half can go on a way the rest can go on the way back, so one half speaks for both. */
-        boolean canPart(int heap, int half) {
-            return goodWays(heap, half) != 0;
         }
 
         /** What 0 the ring's length, 1 + k its part k; NONE without a ring. */
@@ -1593,7 +1591,7 @@ public final class HandsOrder {
             int half = 0;
             for (int left = halvesOf(heap); left > 0; left--) {
                 half = nextHalf(heap, half);
-                if ((half & first) != 0 && ways.canPart(heap, half)) {
+                if ((half & first) != 0 && ways.goodWays(heap, half) != 0) {
                     partings[heap]++;
                     tryRounds(heap, rounds[half], rounds[heap & ~half]);
                 }
@@ -1625,7 +1623,7 @@ public final class HandsOrder {
             for (int left = halvesOf(heap); left > 0; left--) {
                 half = nextHalf(heap, half);
                 int rest = heap & ~half;
-                if (half < rest && ways.canPart(heap, half)) {
+                if (half < rest && ways.goodWays(heap, half) != 0) {
                     boolean live = isLive(heap) && orders.count[half] > 0 && orders.count[rest] > 0;
                     marks[half] |= live ? IN_NET | LIVE : IN_NET;
                     marks[rest] |= live ? IN_NET | LIVE : IN_NET;
@@ -1681,7 +1679,7 @@ public final class HandsOrder {
             for (int left = halvesOf(heap); left > 0; left--) {
                 half = nextHalf(heap, half);
                 boolean open = (half >> p & 1) != 0 && found[half] != NONE;
-                if (open && (fewest == NONE || found[half] + 1 < fewest) && ways.canPart(heap, half)) {
+                if (open && (fewest == NONE || found[half] + 1 < fewest) && ways.goodWays(heap, half) != 0) {
                     fewest = found[half] + 1;
                 }
             }
@@ -1702,7 +1700,7 @@ public final class HandsOrder {
             for (int p = 0; p < shape.parts; p++) {
                 int one = 1 << p;
                 boolean counted = isOne(set & ~one) && one > (set & ~one);
-                if ((set & one) != 0 && !counted && ways.canPart(set, one)) {
+                if ((set & one) != 0 && !counted && ways.goodWays(set, one) != 0) {
                     sum += found[set & ~one];
                 }
             }
