@@ -63,7 +63,9 @@ public final class HandsOrder {
         parted.gather(shape.parts);
         recordText.forget();
         hands.stale();
-        refreshWays();
+        ways.measure(false);
+        swollenWays.copy(ways);
+        forgetOrders();
         return shape.parts;
     }
 
@@ -96,7 +98,9 @@ public final class HandsOrder {
             return false;
         }
         shape.bent ^= 1 << p;
-        refreshWays();
+        ways.combine();
+        swollenWays.combine();
+        forgetOrders();
         return true;
     }
 
@@ -111,15 +115,19 @@ public final class HandsOrder {
         if (!shape.isHeap(set)) {
             return NONE;
         }
+        if (what == 5 || what == 6) {
+            hands.refresh();
+            return what == 5 ? hands.need[set] : hands.tipping(set);
+        }
+        if (what == 2 || what == 3) {
+            freshOrders();
+            return what == 2 ? orders.count[set] : orders.least[set];
+        }
         freshNet();
         switch (what) {
             case 0: return theNet.inNet(set) ? 1 : 0;
             case 1: return theNet.partings[set];
-            case 2: return orders.count[set];
-            case 3: return orders.least[set];
             case 4: return theNet.rounds[set];
-            case 5: return hands.need[set];
-            case 6: return hands.tipping(set);
             case 7: return theNet.isLive(set) ? 1 : 0;
             default: return NONE;
         }
@@ -176,7 +184,7 @@ public final class HandsOrder {
         if (!shape.isPart(p) || !shape.isPart(q) || p == q || what < 0 || what > 1) {
             return NONE;
         }
-        hands.refresh();
+        freshPrices();
         otherOrders.fill(ways, 1 << p | 1 << q);
         return otherOrders.ofWhole(what);
     }
@@ -221,13 +229,13 @@ public final class HandsOrder {
             return false;
         }
         shape.swollen[way] ^= 1 << p;
-        swollenWays.refresh(true);
+        swollenWays.measure(true);
         return true;
     }
 
     public long safe(int what) {
         if (what == 0 || what == 1) {
-            hands.refresh();
+            freshPrices();
             otherOrders.fill(swollenWays, 0);
             return otherOrders.ofWhole(what);
         }
@@ -305,17 +313,22 @@ public final class HandsOrder {
         return what == 0 ? theNet.alone[heap] : theNet.byTwo[heap];
     }
 
-    private void refreshWays() {
-        ways.refresh(false);
-        swollenWays.refresh(true);
+    private void forgetOrders() {
         orders.fresh = false;
         theNet.stale();
     }
 
     private void freshOrders() {
         if (!orders.fresh) {
-            hands.refresh();
+            freshPrices();
             orders.fill(ways, 0);
+        }
+    }
+
+    /** Hands that cost nothing need not be counted. */
+    private void freshPrices() {
+        if (prices[HAND] > 0) {
+            hands.refresh();
         }
     }
 
@@ -1211,6 +1224,8 @@ public final class HandsOrder {
         private final Solid passed = new Solid();
         /** Of each half the parts that bar one of it: nine bits for each of the six ways. */
         private final long[] barrers = new long[SETS];
+        /** Of each part the same, as if nobody were bent. */
+        private final long[] own = new long[MOST_PARTS];
         /** From which parts a ring's first one is reached in 0, 1, .. steps. */
         private final int[] reaching = new int[MOST_PARTS + 1];
 
@@ -1221,7 +1236,7 @@ public final class HandsOrder {
             }
         }
 
-        void refresh(boolean swell) {
+        void measure(boolean swell) {
             for (int p = 0; p < shape.parts; p++) {
                 bodies[p].copy(shape.bodies[p]);
                 for (int way = 0; way < WAYS && swell; way++) {
@@ -1231,7 +1246,27 @@ public final class HandsOrder {
                 }
             }
             for (int p = 0; p < shape.parts; p++) {
-                barrers[1 << p] = shape.isBent(p) ? 0 : barrersOf(p);
+                own[p] = barrersOf(p);
+            }
+            combine();
+        }
+
+        /** As long as nobody is swollen both are the same. */
+        void copy(Ways other) {
+            for (int p = 0; p < shape.parts; p++) {
+                own[p] = other.own[p];
+            }
+            combine();
+        }
+
+        /** Leaves out who is bent, and puts the parts together to halves. */
+        void combine() {
+            long straight = 0;
+            for (int way = 0; way < WAYS; way++) {
+                straight = straight << MOST_PARTS | shape.whole() & ~shape.bent;
+            }
+            for (int p = 0; p < shape.parts; p++) {
+                barrers[1 << p] = shape.isBent(p) ? 0 : own[p] & straight;
             }
             for (int half = 1; half <= shape.whole(); half++) {
                 int others = half & half - 1;
@@ -1251,7 +1286,7 @@ public final class HandsOrder {
             for (int way = 0; way < WAYS; way++) {
                 sweep(bodies[p], way);
                 for (int q = 0; q < shape.parts; q++) {
-                    if (q != p && !shape.isBent(q) && passed.meets(bodies[q])) {
+                    if (q != p && passed.meets(bodies[q])) {
                         all |= 1L << MOST_PARTS * way + q;
                     }
                 }
@@ -1724,13 +1759,22 @@ public final class HandsOrder {
             for (int left = halvesOf(heap); left > 0; left--) {
                 half = nextHalf(heap, half);
                 int rest = heap & ~half;
-                int good = alone[half] == NONE || alone[rest] == NONE ? 0 : ways.goodWays(heap, half);
+                int good = mayBeQuicker(heap, half, rest) ? ways.goodWays(heap, half) : 0;
                 if (good != 0) {
                     int cut = quickest(heap, half, good);
                     alone[heap] = lesser(alone[heap], cut + alone[half] + alone[rest]);
                     byTwo[heap] = lesser(byTwo[heap], cut + Math.max(byTwo[half], byTwo[rest]));
                 }
             }
+        }
+
+        private boolean mayBeQuicker(int heap, int half, int rest) {
+            if (alone[half] == NONE || alone[rest] == NONE) {
+                return false;
+            }
+            boolean forOne = alone[half] + alone[rest] < alone[heap];
+            boolean forTwo = Math.max(byTwo[half], byTwo[rest]) < byTwo[heap];
+            return alone[heap] == NONE || forOne || forTwo;
         }
 
         private int quickest(int heap, int half, int good) {

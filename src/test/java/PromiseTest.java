@@ -511,12 +511,28 @@ public final class PromiseTest {
         }
         cage.bent(1, true);
         due("a bent one is in no ring", cage.ring(7, 5, 0), -1);
+        HandsOrder nine = of(wheel(9));
+        for (int what = 0; what < 11; what++) {
+            due("ring of nine " + what, nine.ring(511, 0, what), what == 0 ? 9 : what < 10 ? what - 1 : -1);
+            due("ring of nine, way back " + what, nine.ring(511, 1, what), what == 0 ? 9 : what == 1 ? 0 : what < 10 ? 10 - what : -1);
+        }
         // two rings of two eastwards: bd first told by b, and cd; the first by its numbers is due
         HandsOrder two = of("part a box 7 7 7 1 1 1; part b box 0 0 0 1 1 1 box 2 0 0 1 1 1; part c box 0 1 0 1 1 1 box 2 1 0 1 1 1;"
                 + " part d box 1 0 0 1 2 1;");
         due("the first of two rings", two.ring(15, 0, 1), 1);
         due("the first of two rings, then", two.ring(15, 0, 2), 3);
         due("without b the other", two.ring(13, 0, 1), 2);
+    }
+
+    /** Part k stands on line k with the next one east of it, the last with the first. */
+    private static String wheel(int n) {
+        StringBuilder text = new StringBuilder();
+        for (int p = 0; p < n; p++) {
+            int before = (p + n - 1) % n;
+            text.append("part ").append((char) ('a' + p)).append(" box 0 ").append(p % 8).append(' ').append(p / 8).append(" 1 1 1");
+            text.append(" box 1 ").append(before % 8).append(' ').append(before / 8).append(" 1 1 1;");
+        }
+        return text.toString();
     }
 
     private static void missingAndDown() {
