@@ -318,6 +318,33 @@ public final class PromiseTest {
         due("row last heap", four.plan(2, 0), 12);
     }
 
+    /** Of two parts that can go apart on one way alone (and back) each way's price is 1 at first. */
+    private static void pricesAtFirst() {
+        for (int axis = 0; axis < 3; axis++) {
+            HandsOrder x = of(tube(axis));
+            due("least at first " + axis, x.heap(3, 3), 1);
+            due("plan at first " + axis, x.plan(0, 2), 2 * axis);
+            x.price(2 * axis, 2);
+            due("least back " + axis, x.heap(3, 3), 1);
+            due("plan back " + axis, x.plan(0, 2), 2 * axis + 1);
+            x.price(2 * axis + 1, 3);
+            due("least then " + axis, x.heap(3, 3), 2);
+        }
+    }
+
+    /** A peg in a tube that is open at both ends along an axis. */
+    private static String tube(int axis) {
+        StringBuilder text = new StringBuilder("part a box 3 3 3 1 1 1; part b");
+        for (int way = 0; way < 6; way++) {
+            if (way / 2 != axis) {
+                int[] at = {3, 3, 3};
+                at[way / 2] += way % 2 == 0 ? 1 : -1;
+                text.append(" box ").append(at[0]).append(' ').append(at[1]).append(' ').append(at[2]).append(" 1 1 1");
+            }
+        }
+        return text.append(";").toString();
+    }
+
     private static void planGoesIntoTheHalfFirst() {
         HandsOrder z = of("part a box 0 0 0 1 1 1; part b box 2 0 0 1 1 1; part c box 4 0 0 1 1 1; part d box 6 0 0 1 1 1;");
         for (int way = 0; way < 6; way++) {
@@ -391,6 +418,19 @@ public final class PromiseTest {
         due("a joint covered by its own part", self.cut(3, 1, 1), 0);
         HandsOrder own = of("part a box 0 0 0 1 1 1; part b box 1 0 0 1 1 1; joint a b 0 0 0 up;");
         due("its own cell does not count", own.cut(3, 1, 1), 1);
+        // the joint of a and b is at 3 3 3; c stands four cells or one cell from there on one way
+        for (int way = 0; way < 6; way++) {
+            for (int far = 1; far < 5; far += 3) {
+                int[] at = {3, 3, 3};
+                at[way / 2] += way % 2 == 0 ? far : -Math.min(far, 3);
+                String spot = at[0] + " " + at[1] + " " + at[2];
+                for (int reached = 0; reached < 6; reached++) {
+                    HandsOrder y = of("part a box 0 0 0 1 1 1; part b box 7 7 7 1 1 1; part c box " + spot + " 1 1 1; joint a b 3 3 3 "
+                            + Model.WAYS.get(reached) + ";");
+                    due("joint reached from " + reached + ", c at " + spot, y.cut(7, 1, 1), reached == way ? 0 : 1);
+                }
+            }
+        }
     }
 
     private static void heapsAndNet() {
@@ -478,6 +518,11 @@ public final class PromiseTest {
         }
         HandsOrder two = of("part f box 3 3 0 1 1 1; part a box 0 3 2 1 1 1; part b box 6 3 2 1 1 1;");
         due("two float", two.holding(7), 6);
+        due("tower", of(TOWER).holding(7), 0);
+        tell(x, TOWER);
+        x.thing();
+        due("another thing is held otherwise", x.holding(7), 0);
+        due("another thing stands", x.heap(7, 5), 0);
         due("and it stands", two.heap(7, 5), 2);
         two.price(6, 7);
         // 1 and two hands of the whole; then a and b stand without f on their own floor, and nobody tips: 1
@@ -535,6 +580,10 @@ public final class PromiseTest {
         return text.toString();
     }
 
+    /** c between two shells: it can't leave both of them, so of the live heaps without it there are a and b alone. */
+    private static final String SHELLS = "part a box 3 3 4 1 1 1 box 4 3 3 1 1 1 box 3 4 3 1 1 1; part b box 3 3 2 1 1 1 box 2 3 3 1 1 1 box 3 2 3 1 1 1;"
+            + " part c box 3 3 3 1 1 1;";
+
     private static void missingAndDown() {
         HandsOrder x = of(TOWER);
         due("missing a", x.missing(0), 6);
@@ -542,6 +591,9 @@ public final class PromiseTest {
         due("missing c", x.missing(2), 3);
         due("down a", x.down(0), 1);
         HandsOrder corners = of(CORNERS);
+        due("missing, the least of several", of(SHELLS).missing(2), 1);
+        due("shells, orders", of(SHELLS).heap(7, 2), 2);
+        due("shells, live", of(SHELLS).net(1), 6);
         due("missing in pairs", corners.missing(0), 12);
         due("missing in the other pair", corners.missing(3), 3);
         due("down two", corners.down(0), 2);
@@ -664,6 +716,12 @@ public final class PromiseTest {
         due("safe as it is", x.safeCut(3, 1, 0), 1);
         due("swollen north", x.swollen(0, 2, true), true);
         due("c has the cell", x.safeCut(3, 1, 0), 1);
+        HandsOrder taken = of("part a box 0 0 0 1 1 1; part b box 1 1 0 1 1 1; part c box 0 1 0 1 1 1;");
+        taken.swollen(0, 2, true);
+        due("c has the cell on b's line", taken.safeCut(3, 1, 0), 1);
+        HandsOrder free = of("part a box 0 0 0 1 1 1; part b box 1 1 0 1 1 1; part c box 5 5 5 1 1 1;");
+        free.swollen(0, 2, true);
+        due("nobody has the cell on b's line", free.safeCut(3, 1, 0), 0);
         due("swollen east", x.swollen(0, 0, true), true);
         due("one farther is not two", x.safeCut(3, 1, 0), 1);
         due("on its way north it is barred", x.safeCut(3, 1, 2), 0);
@@ -827,6 +885,20 @@ public final class PromiseTest {
         due("b from below", x.pull(3, 2, 0, 5), 4);
         due("b from below, pulled west", x.pull(3, 2, 1, 5), 4);
         due("b from below, pulled down", x.pull(3, 2, 5, 5), 2);
+        // one cell behind another from each side: it must be pulled aside by one, or to where the other is
+        for (int side = 0; side < 6; side++) {
+            int[] at = {3, 3, 3};
+            at[side / 2] += side % 2 == 0 ? -2 : 2;
+            HandsOrder y = of("part a box " + at[0] + " " + at[1] + " " + at[2] + " 1 1 1; part b box 3 3 3 1 1 1;");
+            for (int way = 0; way < 6; way++) {
+                int due = way / 2 != side / 2 ? 1 : way == side ? 2 : -1;
+                due("pull behind, side " + side + " way " + way, y.pull(3, 1, way, side), due);
+                due("pull ahead, side " + side + " way " + way, y.pull(3, 2, way, side), 0);
+                due("view behind, side " + side, y.view(3, 1, side), 0);
+                due("view ahead, side " + side, y.view(3, 2, side), 1);
+                due("view from the other side " + side, y.view(3, 1, side ^ 1), 1);
+            }
+        }
         HandsOrder edge = of("part a box 7 0 0 1 1 1; part b box 0 0 0 1 1 1 box 7 0 7 1 1 1;");
         due("beyond the edge", edge.pull(3, 1, 0, 4), 1);
         due("from the west", edge.pull(3, 1, 1, 1), 7);
@@ -940,6 +1012,7 @@ public final class PromiseTest {
         cells();
         bars();
         pricesAndPlan();
+        pricesAtFirst();
         planGoesIntoTheHalfFirst();
         bent();
         cuts();
