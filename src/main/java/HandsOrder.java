@@ -1798,9 +1798,7 @@ public final class HandsOrder {
         private static final int REACH = 8;
         private static final int SPAN = 2 * REACH + 1;
         private static final int OFFSETS = SPAN * SPAN * SPAN;
-        private static final int FREE = 1;
-        private static final int TAKEN = 2;
-        private static final int QUEUED = 4;
+        private static final int WORDS = (OFFSETS + 63) / 64;
 
         private final Shape shape;
         private final Solid half = new Solid();
@@ -1809,9 +1807,12 @@ public final class HandsOrder {
         private final Solid other = new Solid();
         private final int[] halfFronts = new int[LINES];
         private final int[] restFronts = new int[LINES];
-        /** Of each offset of the half what is known; these two rows are long, so only moves() makes them. */
-        private byte[] known = null;
-        private short[] queue = null;
+        /** A bit for each offset of the half: whether it is known, and taken; reached; of this level and the next. */
+        private final long[] known = new long[WORDS];
+        private final long[] taken = new long[WORDS];
+        private final long[] reached = new long[WORDS];
+        private final long[] level = new long[WORDS];
+        private final long[] next = new long[WORDS];
 
         Space(Shape shape) {
             this.shape = shape;
@@ -1923,108 +1924,107 @@ public final class HandsOrder {
 
         /** Goes through all offsets level by level, so the first that comes out is the nearest. */
         int fewestGoings() {
-            makeRows();
-            int begin = 0;
-            int end = enqueue(0, 0, 0, 0);
-            for (int depth = 0; depth < OFFSETS && begin < end; depth++) {
-                int level = end;
-                for (int k = begin; k < level; k++) {
-                    if (comesOut(queue[k])) {
-                        return depth;
-                    }
+            Arrays.fill(known, 0);
+            Arrays.fill(taken, 0);
+            Arrays.fill(reached, 0);
+            Arrays.fill(next, 0);
+            int start = OFFSETS / 2;
+            mark(reached, start);
+            mark(next, start);
+            for (int depth = 0; depth < OFFSETS && takeLevel(); depth++) {
+                if (someComesOut()) {
+                    return depth;
                 }
-                for (int k = begin; k < level; k++) {
-                    end = enqueueAround(queue[k], end);
-                }
-                begin = level;
+                spreadLevel();
             }
             return NONE;
         }
 
-        private void makeRows() {
-            if (known == null || queue == null) {
-                known = new byte[OFFSETS];
-                queue = new short[OFFSETS];
+        private boolean takeLevel() {
+            boolean some = false;
+            for (int word = 0; word < WORDS; word++) {
+                level[word] = next[word];
+                next[word] = 0;
+                some |= level[word] != 0;
             }
-            Arrays.fill(known, (byte) 0);
+            return some;
         }
 
-        private int enqueueAround(int spot, int end) {
-            int now = end;
-            for (int way = 0; way < WAYS; way++) {
-                int far = signOf(way);
-                int axis = axisOf(way);
-                now = enqueue(offsetX(spot) + (axis == 0 ? far : 0), offsetY(spot) + (axis == 1 ? far : 0),
-                        offsetZ(spot) + (axis == 2 ? far : 0), now);
-            }
-            return now;
-        }
-
-        private int enqueue(int dx, int dy, int dz, int end) {
-            if (!isNear(dx, dy, dz) || !isFree(dx, dy, dz) || end >= OFFSETS) {
-                return end;
-            }
-            int spot = spotOf(dx, dy, dz);
-            if ((known[spot] & QUEUED) != 0) {
-                return end;
-            }
-            known[spot] |= QUEUED;
-            queue[end] = (short) spot;
-            return end + 1;
-        }
-
-        private boolean comesOut(int spot) {
-            for (int way = 0; way < WAYS; way++) {
-                if (isOpen(spot, way)) {
-                    return true;
+        private boolean someComesOut() {
+            for (int word = 0; word < WORDS; word++) {
+                for (int bit = 0; bit < 64 && level[word] != 0; bit++) {
+                    for (int way = 0; way < WAYS && isMarked(level, 64 * word + bit); way++) {
+                        if (isOpen(64 * word + bit, way)) {
+                            return true;
+                        }
+                    }
                 }
             }
             return false;
         }
 
-        private boolean isOpen(int spot, int way) {
-            int axis = axisOf(way);
-            for (int k = 1; k < SPAN; k++) {
-                int far = k * signOf(way);
-                int dx = offsetX(spot) + (axis == 0 ? far : 0);
-                int dy = offsetY(spot) + (axis == 1 ? far : 0);
-                int dz = offsetZ(spot) + (axis == 2 ? far : 0);
-                if (!isNear(dx, dy, dz)) {
-                    return true;
+        private void spreadLevel() {
+            for (int word = 0; word < WORDS; word++) {
+                for (int bit = 0; bit < 64 && level[word] != 0; bit++) {
+                    if (isMarked(level, 64 * word + bit)) {
+                        spreadFrom(64 * word + bit);
+                    }
                 }
-                if (!isFree(dx, dy, dz)) {
+            }
+        }
+
+        private void spreadFrom(int spot) {
+            for (int way = 0; way < WAYS; way++) {
+                int to = stepsLeft(spot, way) > 0 ? spot + strideOf(way) : spot;
+                if (!isMarked(reached, to) && isFree(to)) {
+                    mark(reached, to);
+                    mark(next, to);
+                }
+            }
+        }
+
+        /** Farther than eight cells away it meets nobody any more. */
+        private boolean isOpen(int spot, int way) {
+            int far = stepsLeft(spot, way);
+            for (int k = 1; k <= far; k++) {
+                if (!isFree(spot + k * strideOf(way))) {
                     return false;
                 }
             }
             return true;
         }
 
-        private boolean isFree(int dx, int dy, int dz) {
-            int spot = spotOf(dx, dy, dz);
-            if (known[spot] == 0) {
-                known[spot] = (byte) (half.meetsMoved(rest, dx, dy, dz) ? TAKEN : FREE);
+        private boolean isFree(int spot) {
+            if (!isMarked(known, spot)) {
+                mark(known, spot);
+                if (half.meetsMoved(rest, offsetAt(spot, 0), offsetAt(spot, 1), offsetAt(spot, 2))) {
+                    mark(taken, spot);
+                }
             }
-            return (known[spot] & FREE) != 0;
+            return !isMarked(taken, spot);
         }
 
-        private static boolean isNear(int dx, int dy, int dz) {
-            return Math.abs(dx) <= REACH && Math.abs(dy) <= REACH && Math.abs(dz) <= REACH;
+        private static boolean isMarked(long[] bits, int spot) {
+            return (bits[spot >> 6] >>> (spot & 63) & 1) != 0;
         }
 
-        private static int spotOf(int dx, int dy, int dz) {
-            return (SPAN * (dz + REACH) + dy + REACH) * SPAN + dx + REACH;
+        private static void mark(long[] bits, int spot) {
+            bits[spot >> 6] |= 1L << (spot & 63);
         }
 
-        private static int offsetX(int spot) {
-            return spot % SPAN - REACH;
+        /** Offsets are numbered so that a step on a way is always the same number more or less. */
+        private static int strideOf(int way) {
+            int axis = axisOf(way);
+            return signOf(way) * (axis == 0 ? 1 : axis == 1 ? SPAN : SPAN * SPAN);
         }
 
-        private static int offsetY(int spot) {
-            return spot / SPAN % SPAN - REACH;
+        private static int offsetAt(int spot, int axis) {
+            int lines = axis == 0 ? spot : axis == 1 ? spot / SPAN : spot / SPAN / SPAN;
+            return lines % SPAN - REACH;
         }
 
-        private static int offsetZ(int spot) {
-            return spot / SPAN / SPAN - REACH;
+        private static int stepsLeft(int spot, int way) {
+            return REACH - signOf(way) * offsetAt(spot, axisOf(way));
         }
 
         /** Axis NONE: moved alone, else also turned about at that axis. */

@@ -43,12 +43,12 @@ public final class RoomTest {
         everyCall(x);
         long before = made();
         HandsOrder y = new HandsOrder();
-        atMost("bytes of a new object", made() - before, 80_000);
+        atMost("bytes of a new object", made() - before, 64_000);
         before = made();
         tell(y, NINE);
         sink += y.thing();
         everyCall(y);
-        atMost("bytes of one call of each kind", made() - before, 30_000);
+        atMost("bytes of one call of each kind", made() - before, 4_000);
         before = made();
         long start = System.nanoTime();
         for (int k = 0; k < 50; k++) {
