@@ -123,7 +123,8 @@ public final class HandsOrder {
             freshOrders();
             return what == 2 ? orders.count[set] : orders.least[set];
         }
-        freshNet();
+        freshOrders();
+        theNet.refresh(orders);
         switch (what) {
             case 0: return theNet.inNet(set) ? 1 : 0;
             case 1: return theNet.partings[set];
@@ -138,7 +139,8 @@ public final class HandsOrder {
             case 0:
             case 1:
             case 2:
-                freshNet();
+                freshOrders();
+                theNet.refresh(orders);
                 return theNet.howMany(what);
             case 3: return shape.parts;
             case 4: return shape.joints;
@@ -172,7 +174,8 @@ public final class HandsOrder {
         if (!shape.isPart(p)) {
             return NONE;
         }
-        freshNet();
+        freshOrders();
+        theNet.refresh(orders);
         return theNet.largestLiveWithout(p);
     }
 
@@ -239,6 +242,7 @@ public final class HandsOrder {
             otherOrders.fill(swollenWays, 0);
             return otherOrders.ofWhole(what);
         }
+        freshOrders();
         return what == 2 ? firstUnsafe() : NONE;
     }
 
@@ -332,17 +336,11 @@ public final class HandsOrder {
         }
     }
 
-    private void freshNet() {
-        freshOrders();
-        theNet.refresh(orders);
-    }
-
     private boolean isSafe(int heap, int half, int way) {
         return ways.isGood(heap, half, way) && swollenWays.isGood(heap, half, way);
     }
 
     private int firstUnsafe() {
-        freshOrders();
         for (int k = 0; k < MOST_PARTS; k++) {
             int heap = orders.planHeap(k);
             if (heap == NONE) {
@@ -949,8 +947,12 @@ public final class HandsOrder {
                 return tape.refuseToken(1);
             }
             for (int k = 0; k <= MOST_BOXES && tape.says("box"); k++) {
+                int place = tape.place;
                 if (!readBox()) {
                     return false;
+                }
+                if (!fillBox()) {
+                    return tape.refuse(5, place);
                 }
             }
             return passSemicolon();
@@ -960,7 +962,7 @@ public final class HandsOrder {
             if (boxes >= MOST_BOXES) {
                 return tape.refuseToken(3);
             }
-            int place = tape.place;
+            boxes++;
             tape.advance();
             for (int k = 0; k < 2 * AXES; k++) {
                 if (tape.kind != Tape.NUMBER) {
@@ -972,8 +974,7 @@ public final class HandsOrder {
                 numbers[k] = tape.value;
                 tape.advance();
             }
-            boxes++;
-            return fillBox() || tape.refuse(5, place);
+            return true;
         }
 
         /** Of the six numbers the last three are lengths, counted from the first three. */
