@@ -70,6 +70,7 @@ public final class ModelTest {
     /** Parts that grow into one another in a small room, so that they bar and lock one another. */
     private String tangle(int parts, int cells) {
         int[] size = {2 + below(3), 2 + below(3), 1 + below(3)};
+        int[] corner = {below(9 - size[0]), below(9 - size[1]), below(9 - size[2])};
         int volume = size[0] * size[1] * size[2];
         int[] owner = new int[volume];
         for (int k = 0; k < Math.min(volume, cells); k++) {
@@ -88,8 +89,8 @@ public final class ModelTest {
                     while (x + run < size[0] && owner[at + run] == p) {
                         run++;
                     }
-                    part.append(" box ").append(x).append(' ').append(at / size[0] % size[1]).append(' ');
-                    part.append(at / size[0] / size[1]).append(' ').append(run).append(" 1 1");
+                    part.append(" box ").append(corner[0] + x).append(' ').append(corner[1] + at / size[0] % size[1]).append(' ');
+                    part.append(corner[2] + at / size[0] / size[1]).append(' ').append(run).append(" 1 1");
                     at += run - 1;
                 }
             }

@@ -1,3 +1,5 @@
+import java.util.regex.Pattern;
+
 /** Each promise with ordinary inputs, the edges that the document names, and wrong inputs; the due answers are told by hand. */
 public final class PromiseTest {
     private static final int[] WRONG = {-1, Integer.MIN_VALUE, Integer.MAX_VALUE};
@@ -653,6 +655,25 @@ public final class PromiseTest {
         }
     }
 
+    /** The same boxes with x, y, z told in another order, and from 3 on also with east for west and so on. */
+    private static String turned(String text, int k) {
+        return Pattern.compile("box (\\d) (\\d) (\\d) (\\d) (\\d) (\\d)").matcher(text).replaceAll(m -> {
+            StringBuilder box = new StringBuilder("box");
+            for (int i = 0; i < 6; i++) {
+                int axis = (i + k) % 3;
+                int least = Integer.parseInt(m.group(1 + axis));
+                int length = Integer.parseInt(m.group(4 + axis));
+                box.append(' ').append(i > 2 ? length : k < 3 ? least : 8 - least - length);
+            }
+            return box.toString();
+        });
+    }
+
+    private static String shifted(String text, int dx, int dy, int dz) {
+        return Pattern.compile("box (\\d) (\\d) (\\d)").matcher(text).replaceAll(m -> "box " + (Integer.parseInt(m.group(1)) + dx) + " "
+                + (Integer.parseInt(m.group(2)) + dy) + " " + (Integer.parseInt(m.group(3)) + dz));
+    }
+
     private static void moves() {
         String wall = "part a box 2 2 2 1 1 1; part b box 4 2 2 1 1 1 box 1 2 2 1 1 1 box 2 3 2 1 1 1 box 2 1 2 1 1 1 box 2 2 3 1 1 1 box 2 2 1 1 1 1";
         due("moves 1", of(wall + ";").moves(3, 1), 1);
@@ -662,6 +683,20 @@ public final class PromiseTest {
         due("moves 2 of the other half", of(longer + " box 3 5 2 1 1 1;").moves(3, 2), 2);
         due("a joint does not count", of(longer + " box 3 5 2 1 1 1; joint a b 2 2 1 up;").moves(3, 2), 2);
         due("shut in", of(longer + " box 3 3 2 1 1 1;").moves(3, 1), -1);
+        // a tube along x that is shut at both ends and has a hole far from where a is
+        String tube = "part a box 1 3 3 1 1 1; part b box 0 3 3 1 1 1 box 7 3 3 1 1 1 box 1 4 3 5 1 1 box 1 2 3 6 1 1 box 1 3 4 6 1 1 box 1 3 2 6 1 1;";
+        // a could leave eastwards but for the last cell of its way
+        String late = "part a box 0 0 0 1 1 1 box 3 3 3 1 1 1; part b box 7 0 0 1 1 1 box 2 3 3 1 1 1 box 3 4 3 1 1 1 box 3 2 3 1 1 1 box 3 3 4 1 1 1 box 3 3 2 1 1 1;";
+        for (int k = 0; k < 6; k++) {
+            due("moves to the hole, turned " + k, of(turned(tube, k)).moves(3, 1), 5);
+            due("moves of the tube, turned " + k, of(turned(tube, k)).moves(3, 2), 5);
+            due("moves before the last cell, turned " + k, of(turned(late, k)).moves(3, 1), 1);
+            due("moves before the last cell, the other, turned " + k, of(turned(late, k)).moves(3, 2), 1);
+            for (int shift = -1; shift < 4; shift++) {
+                String moved = shifted(longer + " box 3 5 2 1 1 1;", shift, Math.min(shift, 2), shift);
+                due("moves 2, shifted " + shift + ", turned " + k, of(turned(moved, k)).moves(3, 1), 2);
+            }
+        }
         HandsOrder x = of(CAGE + "part c box 3 3 7 1 1 1;");
         due("moves in a cage", x.moves(3, 1), -1);
         due("moves of the free one", x.moves(7, 4), 0);
