@@ -701,6 +701,9 @@ public final class PromiseTest {
         due("moves in a cage", x.moves(3, 1), -1);
         due("moves of the free one", x.moves(7, 4), 0);
         due("without the cage", x.moves(5, 1), 0);
+        due("moves in a cage again", x.moves(3, 1), -1);
+        due("moves of the cage", x.moves(3, 2), -1);
+        due("moves of the cage without a", x.moves(6, 2), 0);
         due("all", x.moves(7, 7), -1);
         due("none", x.moves(7, 0), -1);
         due("of another", x.moves(3, 4), -1);
@@ -805,6 +808,13 @@ public final class PromiseTest {
         due("b swollen north", x.swollen(1, 2, true), true);
         // now b has also 2 0..1 0 (west of it), and y = 2 over its cells: a at z 0 goes north freely, but west too
         due("the plan is safe still", x.safe(2), -1);
+        due("a cage has no safe order", of(CAGE).safe(0), 0);
+        due("a cage has no safe least", of(CAGE).safe(1), -1);
+        HandsOrder loose = of(CAGE);
+        loose.bent(1, true);
+        due("with the cage bent", loose.safe(0), 1);
+        due("with the cage bent, least", loose.safe(1), 1);
+        due("with the cage bent, a cut", loose.safeCut(3, 1, 5), 1);
         HandsOrder y = of("part a box 1 1 0 1 1 1; part b box 3 3 0 1 1 1; part c box 5 5 0 1 1 1;");
         due("plan way", y.plan(0, 2), 0);
         y.swollen(1, 3, true);
