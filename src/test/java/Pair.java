@@ -29,11 +29,7 @@ final class Pair {
     void tell(String text) {
         x.end(0);
         m.end(0);
-        for (int at = 0; at < text.length(); at += 20) {
-            int[] n = new int[5];
-            for (int k = 0; k < 20; k++) {
-                n[k / 4] = n[k / 4] << 8 | (at + k < text.length() ? text.charAt(at + k) & 255 : 32);
-            }
+        for (int[] n : Told.numbers(text)) {
             both("feed", x.feed(n[0], n[1], n[2], n[3], n[4]), m.feed(n[0], n[1], n[2], n[3], n[4]));
         }
         both("end '" + text + "'", of(x.end(text.length())), of(m.end(text.length())));

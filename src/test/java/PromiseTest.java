@@ -1,20 +1,6 @@
-import java.util.regex.Pattern;
-
 /** Each promise with ordinary inputs, the edges that the document names, and wrong inputs; the due answers are told by hand. */
 public final class PromiseTest {
     private static final int[] WRONG = {-1, Integer.MIN_VALUE, Integer.MAX_VALUE};
-    /** Three cells on top of one another. */
-    private static final String TOWER = "part a box 0 0 0 1 1 1; part b box 0 0 1 1 1 1; part c box 0 0 2 1 1 1;";
-    /** On their way east a is barred by b, b by c, c by a. */
-    private static final String WHEEL = "part a box 0 0 0 1 1 1 box 1 2 0 1 1 1; part b box 1 0 0 1 1 1 box 0 1 0 1 1 1;"
-            + " part c box 1 1 0 1 1 1 box 0 2 0 1 1 1;";
-    /** A cell with another part on all six sides of it. */
-    private static final String CAGE = "part a box 3 3 3 1 1 1; part b box 4 3 3 1 1 1 box 2 3 3 1 1 1 box 3 4 3 1 1 1"
-            + " box 3 2 3 1 1 1 box 3 3 4 1 1 1 box 3 3 2 1 1 1;";
-    /** Two cells side by side with a joint on a that is reached from above, and c over it. */
-    private static final String JOINED = "part a box 0 0 0 1 1 1; part b box 1 0 0 1 1 1; part c box 0 0 3 1 1 1;"
-            + " joint a b 0 0 0 up; joint b c 7 7 7 down;";
-
     private static int wrong = 0;
 
     private static void due(String what, long got, long want) {
@@ -26,32 +12,6 @@ public final class PromiseTest {
 
     private static void due(String what, boolean got, boolean want) {
         due(what, got ? 1 : 0, want ? 1 : 0);
-    }
-
-    private static void tell(HandsOrder x, String text) {
-        x.end(0);
-        for (int at = 0; at < text.length(); at += 20) {
-            int[] n = new int[5];
-            for (int k = 0; k < 20; k++) {
-                n[k / 4] = n[k / 4] << 8 | (at + k < text.length() ? text.charAt(at + k) & 255 : 32);
-            }
-            x.feed(n[0], n[1], n[2], n[3], n[4]);
-        }
-        x.end(text.length());
-    }
-
-    private static HandsOrder of(String text) {
-        HandsOrder x = new HandsOrder();
-        tell(x, text);
-        if (x.thing() < 0) {
-            due("the text " + text + " has a fault", x.fault(0), 0);
-        }
-        return x;
-    }
-
-    private static int record(HandsOrder x, String text) {
-        tell(x, text);
-        return x.record();
     }
 
     private static void newObject() {
@@ -90,7 +50,7 @@ public final class PromiseTest {
         due("new minutes", x.minutes(3, 1, 0), -1);
         due("new time", x.time(1, 0), -1);
         due("new record of nothing", x.record(), 0);
-        due("a record without a thing", record(x, "a up;"), -1);
+        due("a record without a thing", Told.record(x, "a up;"), -1);
         due("its fault", x.fault(0), 2);
         due("NONE", HandsOrder.NONE, -1);
     }
@@ -120,17 +80,17 @@ public final class PromiseTest {
         due("thing", x.thing(), 1);
         due("its cell", x.cell(1, 2, 3), 0);
         due("the tape is empty then", x.end(1), false);
-        tell(x, "#");
+        Told.tell(x, "#");
         due("a fault", x.thing(), -1);
         due("the tape is empty behind a fault", x.end(1), false);
     }
 
     /** The place of the fault is where ^ stands in the text. */
     private static void faulty(int which, String marked) {
-        HandsOrder x = of(TOWER);
+        HandsOrder x = Told.of(Told.TOWER);
         x.bent(0, true);
         int place = marked.indexOf('^');
-        tell(x, marked.replace("^", ""));
+        Told.tell(x, marked.replace("^", ""));
         due("thing of " + marked, x.thing(), -1);
         due("fault of " + marked, x.fault(0), which);
         due("place of fault of " + marked, x.fault(1), place);
@@ -178,33 +138,17 @@ public final class PromiseTest {
         faulty(5, two + "part c ^box 1 0 0 1 1 1;");
         faulty(5, two + "part c box 2 0 0 1 1 1 ^box 0 0 0 8 8 8 #");
         faulty(5, "part a box 1 1 1 2 2 2; part b ^box 2 2 2 1 1 1;");
-        faulty(3, parts(9) + "^part a box 9");
-        faulty(3, parts(9) + "^part");
-        faulty(3, "part a" + boxes(24) + "^box 9 0 0 1 1 1;");
-        faulty(3, "part b box 7 7 7 1 1 1; part a" + boxes(23) + "^box 7 7 7 1 1 1;");
-        faulty(3, two + joints(8) + "^joint a c");
-    }
-
-    private static String parts(int n) {
-        StringBuilder text = new StringBuilder();
-        for (int p = 0; p < n; p++) {
-            text.append("part ").append((char) ('a' + p)).append(" box ").append(p % 8).append(' ').append(p / 8).append(" 0 1 1 1;");
-        }
-        return text.toString();
-    }
-
-    private static String boxes(int n) {
-        return " box 0 0 0 1 1 1 ".repeat(n);
-    }
-
-    private static String joints(int n) {
-        return "joint a b 0 0 0 up;".repeat(n);
+        faulty(3, Told.parts(9) + "^part a box 9");
+        faulty(3, Told.parts(9) + "^part");
+        faulty(3, "part a" + Told.boxes(24) + "^box 9 0 0 1 1 1;");
+        faulty(3, "part b box 7 7 7 1 1 1; part a" + Told.boxes(23) + "^box 7 7 7 1 1 1;");
+        faulty(3, two + Told.joints(8) + "^joint a c");
     }
 
     private static void things() {
-        due("an empty text", of("").net(3), 0);
-        due("blanks alone", of(" \n ").net(5), 0);
-        HandsOrder x = of("part a box0 0 0 1 1 1box 007 07 7 1 1 1;part\nb box 1 0 0 1 1 1;joint a b1 0 0up;joint b a 7 7 7 west;");
+        due("an empty text", Told.of("").net(3), 0);
+        due("blanks alone", Told.of(" \n ").net(5), 0);
+        HandsOrder x = Told.of("part a box0 0 0 1 1 1box 007 07 7 1 1 1;part\nb box 1 0 0 1 1 1;joint a b1 0 0up;joint b a 7 7 7 west;");
         due("parts without blanks", x.net(3), 2);
         due("joints without blanks", x.net(4), 2);
         due("a number with 0 ahead", x.cell(7, 7, 7), 0);
@@ -212,22 +156,22 @@ public final class PromiseTest {
         due("no place", x.fault(1), -1);
         due("fault 2", x.fault(2), -1);
         due("fault -1", x.fault(-1), -1);
-        due("a length of 8", of("part a box 0 0 0 8 8 8;").cell(7, 7, 7), 0);
-        due("cells told twice in one part", of("part a box 0 0 0 2 2 2 box 1 1 1 2 2 2;").net(3), 1);
-        due("9 parts", of(parts(9)).net(3), 9);
-        due("24 boxes", of("part a" + boxes(24) + ";").net(3), 1);
-        due("8 joints", of("part a box 0 0 0 1 1 1; part b box 1 0 0 1 1 1;" + joints(8)).net(4), 8);
-        due("names that are nearly keywords", of("part and box 0 0 0 1 1 1; part boxes box 1 0 0 1 1 1; part u box 2 0 0 1 1 1; joint and u 0 0 0 up;").net(3), 3);
+        due("a length of 8", Told.of("part a box 0 0 0 8 8 8;").cell(7, 7, 7), 0);
+        due("cells told twice in one part", Told.of("part a box 0 0 0 2 2 2 box 1 1 1 2 2 2;").net(3), 1);
+        due("9 parts", Told.of(Told.parts(9)).net(3), 9);
+        due("24 boxes", Told.of("part a" + Told.boxes(24) + ";").net(3), 1);
+        due("8 joints", Told.of("part a box 0 0 0 1 1 1; part b box 1 0 0 1 1 1;" + Told.joints(8)).net(4), 8);
+        due("names that are nearly keywords", Told.of("part and box 0 0 0 1 1 1; part boxes box 1 0 0 1 1 1; part u box 2 0 0 1 1 1; joint and u 0 0 0 up;").net(3), 3);
     }
 
     private static void newThingStartsAnew() {
-        HandsOrder x = of(TOWER);
+        HandsOrder x = Told.of(Told.TOWER);
         x.bent(0, true);
         x.swollen(1, 0, true);
         x.apart(1, 0);
-        record(x, "a east;");
+        Told.record(x, "a east;");
         x.price(0, 50);
-        tell(x, TOWER);
+        Told.tell(x, Told.TOWER);
         due("thing again", x.thing(), 3);
         due("nobody is bent", x.bent(0, false), false);
         due("nobody is swollen", x.swollen(1, 0, false), false);
@@ -235,7 +179,7 @@ public final class PromiseTest {
         due("no cuts", x.together(), 0);
         due("no record", x.judged(0), -1);
         due("the price stays", x.plan(0, 2), 1);
-        tell(x, "part a box 0 0 0 1 1 1;");
+        Told.tell(x, "part a box 0 0 0 1 1 1;");
         due("a smaller thing", x.thing(), 1);
         due("its whole", x.net(5), 1);
         due("where is no more", x.where(1), -1);
@@ -244,7 +188,7 @@ public final class PromiseTest {
     }
 
     private static void cells() {
-        HandsOrder x = of("part a box 1 2 3 2 3 4; part b box 0 0 0 1 1 1;");
+        HandsOrder x = Told.of("part a box 1 2 3 2 3 4; part b box 0 0 0 1 1 1;");
         due("cell least", x.cell(1, 2, 3), 0);
         due("cell greatest", x.cell(2, 4, 6), 0);
         due("cell beside x", x.cell(3, 4, 6), -1);
@@ -259,13 +203,13 @@ public final class PromiseTest {
     }
 
     private static void bars() {
-        HandsOrder x = of(TOWER);
+        HandsOrder x = Told.of(Told.TOWER);
         due("bars a up", x.bars(0, 4), 6);
         due("bars a down", x.bars(0, 5), 0);
         due("bars b up", x.bars(1, 4), 4);
         due("bars b down", x.bars(1, 5), 1);
         due("bars a east", x.bars(0, 0), 0);
-        HandsOrder far = of("part a box 0 0 0 1 1 1; part b box 7 0 0 1 1 1; part c box 0 7 0 1 1 1; part d box 0 0 7 1 1 1;");
+        HandsOrder far = Told.of("part a box 0 0 0 1 1 1; part b box 7 0 0 1 1 1; part c box 0 7 0 1 1 1; part d box 0 0 7 1 1 1;");
         int[] all = {2, 0, 4, 0, 8, 0};
         for (int way = 0; way < 6; way++) {
             due("bars from the corner " + way, far.bars(0, way), all[way]);
@@ -280,7 +224,7 @@ public final class PromiseTest {
     }
 
     private static void pricesAndPlan() {
-        HandsOrder x = of(TOWER);
+        HandsOrder x = Told.of(Told.TOWER);
         int[] first = {7, 1, 0, 6, 2, 0};
         for (int k = 0; k < 6; k++) {
             due("plan " + k, x.plan(k / 3, k % 3), first[k]);
@@ -308,9 +252,9 @@ public final class PromiseTest {
         due("price way -1", x.price(-1, 0), false);
         due("price 100", x.price(0, 100), false);
         due("price -1", x.price(0, -1), false);
-        due("no plan without an order", of(CAGE).plan(0, 0), -1);
-        due("no plan of a one", of("part a box 0 0 0 1 1 1;").plan(0, 0), -1);
-        HandsOrder four = of(parts(4));
+        due("no plan without an order", Told.of(Told.CAGE).plan(0, 0), -1);
+        due("no plan of a one", Told.of("part a box 0 0 0 1 1 1;").plan(0, 0), -1);
+        HandsOrder four = Told.of(Told.parts(4));
         for (int way = 2; way < 6; way++) {
             four.price(way, 9);
         }
@@ -323,7 +267,7 @@ public final class PromiseTest {
     /** Of two parts that can go apart on one way alone (and back) each way's price is 1 at first. */
     private static void pricesAtFirst() {
         for (int axis = 0; axis < 3; axis++) {
-            HandsOrder x = of(tube(axis));
+            HandsOrder x = Told.of(Told.tube(axis));
             due("least at first " + axis, x.heap(3, 3), 1);
             due("plan at first " + axis, x.plan(0, 2), 2 * axis);
             x.price(2 * axis, 2);
@@ -334,21 +278,8 @@ public final class PromiseTest {
         }
     }
 
-    /** A peg in a tube that is open at both ends along an axis. */
-    private static String tube(int axis) {
-        StringBuilder text = new StringBuilder("part a box 3 3 3 1 1 1; part b");
-        for (int way = 0; way < 6; way++) {
-            if (way / 2 != axis) {
-                int[] at = {3, 3, 3};
-                at[way / 2] += way % 2 == 0 ? 1 : -1;
-                text.append(" box ").append(at[0]).append(' ').append(at[1]).append(' ').append(at[2]).append(" 1 1 1");
-            }
-        }
-        return text.append(";").toString();
-    }
-
     private static void planGoesIntoTheHalfFirst() {
-        HandsOrder z = of("part a box 0 0 0 1 1 1; part b box 2 0 0 1 1 1; part c box 4 0 0 1 1 1; part d box 6 0 0 1 1 1;");
+        HandsOrder z = Told.of("part a box 0 0 0 1 1 1; part b box 2 0 0 1 1 1; part c box 4 0 0 1 1 1; part d box 6 0 0 1 1 1;");
         for (int way = 0; way < 6; way++) {
             z.price(way, way == 0 ? 0 : 9);
         }
@@ -357,7 +288,7 @@ public final class PromiseTest {
         due("z second heap", z.plan(1, 0), 7);
         due("z second half", z.plan(1, 1), 4);
         due("z third heap", z.plan(2, 0), 3);
-        HandsOrder pairs = of(CORNERS);
+        HandsOrder pairs = Told.of(Told.CORNERS);
         due("corners: the whole's cut", pairs.plan(0, 1), 3);
         due("corners: then the half's", pairs.plan(1, 0), 3);
         due("corners: then the rest's", pairs.plan(2, 0), 12);
@@ -366,12 +297,8 @@ public final class PromiseTest {
         due("corners: net", pairs.net(0), 7);
     }
 
-    /** a and b have a joint that c covers, c and d one that a covers: the pairs must go apart first. */
-    private static final String CORNERS = "part a box 0 0 0 1 1 1; part b box 1 0 0 1 1 1; part c box 4 4 4 1 1 1; part d box 5 4 4 1 1 1;"
-            + " joint a b 4 4 0 up; joint c d 0 0 4 down;";
-
     private static void bent() {
-        HandsOrder x = of(CAGE);
+        HandsOrder x = Told.of(Told.CAGE);
         due("cage orders", x.heap(3, 2), 0);
         due("not bent so far", x.bent(0, false), false);
         due("bent", x.bent(0, true), true);
@@ -387,13 +314,13 @@ public final class PromiseTest {
             due("bent " + w, x.bent(w, true), false);
         }
         due("bent 2", x.bent(2, true), false);
-        HandsOrder joined = of(JOINED);
+        HandsOrder joined = Told.of(Told.JOINED);
         joined.bent(2, true);
         due("a bent part covers a joint still", joined.cut(7, 1, 1), 0);
     }
 
     private static void cuts() {
-        HandsOrder x = of(JOINED);
+        HandsOrder x = Told.of(Told.JOINED);
         due("covered by c", x.cut(7, 1, 1), 0);
         due("covered by c, the other half", x.cut(7, 6, 0), 0);
         due("c is not there", x.cut(3, 1, 1), 1);
@@ -416,9 +343,9 @@ public final class PromiseTest {
             due("cut half " + w, x.cut(7, w, 0), -1);
             due("cut way " + w, x.cut(7, 1, w), -1);
         }
-        HandsOrder self = of("part a box 0 0 0 1 1 1 box 0 0 2 1 1 1; part b box 1 0 0 1 1 1; joint a b 0 0 0 up;");
+        HandsOrder self = Told.of("part a box 0 0 0 1 1 1 box 0 0 2 1 1 1; part b box 1 0 0 1 1 1; joint a b 0 0 0 up;");
         due("a joint covered by its own part", self.cut(3, 1, 1), 0);
-        HandsOrder own = of("part a box 0 0 0 1 1 1; part b box 1 0 0 1 1 1; joint a b 0 0 0 up;");
+        HandsOrder own = Told.of("part a box 0 0 0 1 1 1; part b box 1 0 0 1 1 1; joint a b 0 0 0 up;");
         due("its own cell does not count", own.cut(3, 1, 1), 1);
         // the joint of a and b is at 3 3 3; c stands four cells or one cell from there on one way
         for (int way = 0; way < 6; way++) {
@@ -427,7 +354,7 @@ public final class PromiseTest {
                 at[way / 2] += way % 2 == 0 ? far : -Math.min(far, 3);
                 String spot = at[0] + " " + at[1] + " " + at[2];
                 for (int reached = 0; reached < 6; reached++) {
-                    HandsOrder y = of("part a box 0 0 0 1 1 1; part b box 7 7 7 1 1 1; part c box " + spot + " 1 1 1; joint a b 3 3 3 "
+                    HandsOrder y = Told.of("part a box 0 0 0 1 1 1; part b box 7 7 7 1 1 1; part c box " + spot + " 1 1 1; joint a b 3 3 3 "
                             + Model.WAYS.get(reached) + ";");
                     due("joint reached from " + reached + ", c at " + spot, y.cut(7, 1, 1), reached == way ? 0 : 1);
                 }
@@ -436,7 +363,7 @@ public final class PromiseTest {
     }
 
     private static void heapsAndNet() {
-        HandsOrder x = of(TOWER);
+        HandsOrder x = Told.of(Told.TOWER);
         long[] all = {1, 3, 3, 2, 2, 0, 0, 1};
         for (int what = 0; what < 8; what++) {
             due("tower " + what, x.heap(7, what), all[what]);
@@ -458,7 +385,7 @@ public final class PromiseTest {
         for (int what = 0; what < 6; what++) {
             due("net " + what, x.net(what), net[what]);
         }
-        HandsOrder cage = of(CAGE);
+        HandsOrder cage = Told.of(Told.CAGE);
         long[] never = {1, 0, 0, -1, -1, 0, 0, 0};
         for (int what = 0; what < 8; what++) {
             due("cage " + what, cage.heap(3, what), never[what]);
@@ -469,17 +396,17 @@ public final class PromiseTest {
         }
         due("a one in a cage is not in the net", cage.heap(1, 0), 0);
         due("but has an order", cage.heap(1, 2), 1);
-        HandsOrder single = of("part a box 0 0 0 1 1 1;");
+        HandsOrder single = Told.of("part a box 0 0 0 1 1 1;");
         due("single net", single.net(0), 1);
         due("single live", single.net(1), 1);
-        due("nine free ones", of(parts(9)).heap(511, 2), 2027025);
-        due("nine free ones, rounds", of(parts(9)).heap(511, 4), 4);
-        due("nine free ones, net", of(parts(9)).net(0), 511);
+        due("nine free ones", Told.of(Told.parts(9)).heap(511, 2), 2027025);
+        due("nine free ones, rounds", Told.of(Told.parts(9)).heap(511, 4), 4);
+        due("nine free ones, net", Told.of(Told.parts(9)).net(0), 511);
     }
 
     private static void deadEnds() {
         // the cage beside a free part: the free one may go, the cage stays a never
-        HandsOrder x = of(CAGE + " part c box 0 0 0 1 1 1;");
+        HandsOrder x = Told.of(Told.CAGE + " part c box 0 0 0 1 1 1;");
         due("orders", x.heap(7, 2), 0);
         due("partings", x.heap(7, 1), 1);
         due("net", x.net(0), 3);
@@ -496,7 +423,7 @@ public final class PromiseTest {
 
     private static void hands() {
         // a lies on b and b on a, far above the floor
-        HandsOrder x = of("part f box 0 0 0 1 1 1; part a box 2 0 3 3 1 1; part b box 2 0 2 1 1 1 box 4 0 4 1 1 1;");
+        HandsOrder x = Told.of("part f box 0 0 0 1 1 1; part a box 2 0 3 3 1 1; part b box 2 0 2 1 1 1 box 4 0 4 1 1 1;");
         due("one of two", x.holding(7), 2);
         due("and it tips", x.heap(7, 6), 1);
         due("hands", x.heap(7, 5), 2);
@@ -515,13 +442,13 @@ public final class PromiseTest {
             "box 1 0 0 1 1 1 box 0 0 1 1 1 2", "box 0 0 0 1 1 1 box 0 1 1 1 1 1", "box 0 0 0 1 1 1 box 0 1 1 1 1 2",
             "box 0 1 0 1 1 1 box 0 0 1 1 1 1", "box 0 1 0 1 1 1 box 0 0 1 1 1 2"};
         for (int k = 0; k < texts.length; k++) {
-            due("tips " + texts[k], of("part a " + texts[k] + ";").heap(1, 6), k % 2);
-            due("hands " + texts[k], of("part a " + texts[k] + ";").heap(1, 5), k % 2);
+            due("tips " + texts[k], Told.of("part a " + texts[k] + ";").heap(1, 6), k % 2);
+            due("hands " + texts[k], Told.of("part a " + texts[k] + ";").heap(1, 5), k % 2);
         }
-        HandsOrder two = of("part f box 3 3 0 1 1 1; part a box 0 3 2 1 1 1; part b box 6 3 2 1 1 1;");
+        HandsOrder two = Told.of("part f box 3 3 0 1 1 1; part a box 0 3 2 1 1 1; part b box 6 3 2 1 1 1;");
         due("two float", two.holding(7), 6);
-        due("tower", of(TOWER).holding(7), 0);
-        tell(x, TOWER);
+        due("tower", Told.of(Told.TOWER).holding(7), 0);
+        Told.tell(x, Told.TOWER);
         x.thing();
         due("another thing is held otherwise", x.holding(7), 0);
         due("another thing stands", x.heap(7, 5), 0);
@@ -533,7 +460,7 @@ public final class PromiseTest {
     }
 
     private static void rings() {
-        HandsOrder x = of(WHEEL);
+        HandsOrder x = Told.of(Told.WHEEL);
         int[] east = {3, 0, 1, 2, -1};
         int[] west = {3, 0, 2, 1, -1};
         for (int what = 0; what < 5; what++) {
@@ -542,7 +469,7 @@ public final class PromiseTest {
             due("ring up " + what, x.ring(7, 4, what), -1);
             due("ring of two " + what, x.ring(3, 0, what), -1);
         }
-        HandsOrder cage = of("part z box 7 7 7 1 1 1;" + CAGE);
+        HandsOrder cage = Told.of("part z box 7 7 7 1 1 1;" + Told.CAGE);
         int[] pair = {2, 1, 2, -1};
         for (int what = 0; what < 4; what++) {
             due("ring of the cage " + what, cage.ring(7, 5, what), pair[what]);
@@ -558,49 +485,34 @@ public final class PromiseTest {
         }
         cage.bent(1, true);
         due("a bent one is in no ring", cage.ring(7, 5, 0), -1);
-        HandsOrder nine = of(wheel(9));
+        HandsOrder nine = Told.of(Told.wheel(9));
         for (int what = 0; what < 11; what++) {
             due("ring of nine " + what, nine.ring(511, 0, what), what == 0 ? 9 : what < 10 ? what - 1 : -1);
             due("ring of nine, way back " + what, nine.ring(511, 1, what), what == 0 ? 9 : what == 1 ? 0 : what < 10 ? 10 - what : -1);
         }
         // two rings of two eastwards: bd first told by b, and cd; the first by its numbers is due
-        HandsOrder two = of("part a box 7 7 7 1 1 1; part b box 0 0 0 1 1 1 box 2 0 0 1 1 1; part c box 0 1 0 1 1 1 box 2 1 0 1 1 1;"
+        HandsOrder two = Told.of("part a box 7 7 7 1 1 1; part b box 0 0 0 1 1 1 box 2 0 0 1 1 1; part c box 0 1 0 1 1 1 box 2 1 0 1 1 1;"
                 + " part d box 1 0 0 1 2 1;");
         due("the first of two rings", two.ring(15, 0, 1), 1);
         due("the first of two rings, then", two.ring(15, 0, 2), 3);
         due("without b the other", two.ring(13, 0, 1), 2);
     }
 
-    /** Part k stands on line k with the next one east of it, the last with the first. */
-    private static String wheel(int n) {
-        StringBuilder text = new StringBuilder();
-        for (int p = 0; p < n; p++) {
-            int before = (p + n - 1) % n;
-            text.append("part ").append((char) ('a' + p)).append(" box 0 ").append(p % 8).append(' ').append(p / 8).append(" 1 1 1");
-            text.append(" box 1 ").append(before % 8).append(' ').append(before / 8).append(" 1 1 1;");
-        }
-        return text.toString();
-    }
-
-    /** c between two shells: it can't leave both of them, so of the live heaps without it there are a and b alone. */
-    private static final String SHELLS = "part a box 3 3 4 1 1 1 box 4 3 3 1 1 1 box 3 4 3 1 1 1; part b box 3 3 2 1 1 1 box 2 3 3 1 1 1 box 3 2 3 1 1 1;"
-            + " part c box 3 3 3 1 1 1;";
-
     private static void missingAndDown() {
-        HandsOrder x = of(TOWER);
+        HandsOrder x = Told.of(Told.TOWER);
         due("missing a", x.missing(0), 6);
         due("missing b", x.missing(1), 5);
         due("missing c", x.missing(2), 3);
         due("down a", x.down(0), 1);
-        HandsOrder corners = of(CORNERS);
-        due("missing, the least of several", of(SHELLS).missing(2), 1);
-        due("shells, orders", of(SHELLS).heap(7, 2), 2);
-        due("shells, live", of(SHELLS).net(1), 6);
+        HandsOrder corners = Told.of(Told.CORNERS);
+        due("missing, the least of several", Told.of(Told.SHELLS).missing(2), 1);
+        due("shells, orders", Told.of(Told.SHELLS).heap(7, 2), 2);
+        due("shells, live", Told.of(Told.SHELLS).net(1), 6);
         due("missing in pairs", corners.missing(0), 12);
         due("missing in the other pair", corners.missing(3), 3);
         due("down two", corners.down(0), 2);
-        due("down of a single", of("part a box 0 0 0 1 1 1;").down(0), 0);
-        due("missing of a single", of("part a box 0 0 0 1 1 1;").missing(0), -1);
+        due("down of a single", Told.of("part a box 0 0 0 1 1 1;").down(0), 0);
+        due("missing of a single", Told.of("part a box 0 0 0 1 1 1;").missing(0), -1);
         for (int w : new int[] {-1, 3, Integer.MIN_VALUE, Integer.MAX_VALUE}) {
             due("missing " + w, x.missing(w), -1);
             due("down " + w, x.down(w), -1);
@@ -608,7 +520,7 @@ public final class PromiseTest {
     }
 
     private static void inOne() {
-        HandsOrder x = of(TOWER);
+        HandsOrder x = Told.of(Told.TOWER);
         due("a and b", x.inOne(0, 1, 0), 1);
         due("a and c", x.inOne(2, 0, 0), 1);
         due("a and b least", x.inOne(0, 1, 1), 1);
@@ -621,10 +533,10 @@ public final class PromiseTest {
             due("inOne p " + w, x.inOne(w, 0, 0), -1);
             due("inOne q " + w, x.inOne(0, w, 0), -1);
         }
-        HandsOrder two = of(CAGE);
+        HandsOrder two = Told.of(Told.CAGE);
         due("all in one", two.inOne(0, 1, 0), 1);
         due("all in one costs nothing", two.inOne(1, 0, 1), 0);
-        HandsOrder four = of(parts(4));
+        HandsOrder four = Told.of(Told.parts(4));
         due("four, two in one", four.inOne(1, 2, 0), 3);
         four.price(6, 50);
         due("four, two in one, least", four.inOne(1, 2, 1), 2);
@@ -632,7 +544,7 @@ public final class PromiseTest {
     }
 
     private static void views() {
-        HandsOrder x = of("part a box 1 1 1 1 2 3; part b box 0 1 1 1 1 1; part c box 2 1 1 1 2 3;");
+        HandsOrder x = Told.of("part a box 1 1 1 1 2 3; part b box 0 1 1 1 1 1; part c box 2 1 1 1 2 3;");
         int[] seen = {0, 5, 3, 3, 2, 2};
         for (int way = 0; way < 6; way++) {
             due("view a " + way, x.view(7, 1, way), seen[way]);
@@ -641,7 +553,7 @@ public final class PromiseTest {
         due("view a without c", x.view(3, 1, 0), 6);
         due("the side, the least of several", x.view(7, 4, 6), 0);
         due("view of two", x.view(7, 3, 1), 6);
-        HandsOrder cage = of(CAGE);
+        HandsOrder cage = Told.of(Told.CAGE);
         due("nothing is seen", cage.view(3, 1, 3), 0);
         due("the side from which nothing is seen", cage.view(3, 1, 6), 0);
         due("view 7", x.view(7, 1, 7), -1);
@@ -655,49 +567,30 @@ public final class PromiseTest {
         }
     }
 
-    /** The same boxes with x, y, z told in another order, and from 3 on also with east for west and so on. */
-    private static String turned(String text, int k) {
-        return Pattern.compile("box (\\d) (\\d) (\\d) (\\d) (\\d) (\\d)").matcher(text).replaceAll(m -> {
-            StringBuilder box = new StringBuilder("box");
-            for (int i = 0; i < 6; i++) {
-                int axis = (i + k) % 3;
-                int least = Integer.parseInt(m.group(1 + axis));
-                int length = Integer.parseInt(m.group(4 + axis));
-                box.append(' ').append(i > 2 ? length : k < 3 ? least : 8 - least - length);
-            }
-            return box.toString();
-        });
-    }
-
-    private static String shifted(String text, int dx, int dy, int dz) {
-        return Pattern.compile("box (\\d) (\\d) (\\d)").matcher(text).replaceAll(m -> "box " + (Integer.parseInt(m.group(1)) + dx) + " "
-                + (Integer.parseInt(m.group(2)) + dy) + " " + (Integer.parseInt(m.group(3)) + dz));
-    }
-
     private static void moves() {
         String wall = "part a box 2 2 2 1 1 1; part b box 4 2 2 1 1 1 box 1 2 2 1 1 1 box 2 3 2 1 1 1 box 2 1 2 1 1 1 box 2 2 3 1 1 1 box 2 2 1 1 1 1";
-        due("moves 1", of(wall + ";").moves(3, 1), 1);
+        due("moves 1", Told.of(wall + ";").moves(3, 1), 1);
         String longer = wall + " box 3 1 2 1 1 1 box 3 2 3 1 1 1 box 3 2 1 1 1 1";
-        due("moves 1 still", of(longer + ";").moves(3, 1), 1);
-        due("moves 2", of(longer + " box 3 5 2 1 1 1;").moves(3, 1), 2);
-        due("moves 2 of the other half", of(longer + " box 3 5 2 1 1 1;").moves(3, 2), 2);
-        due("a joint does not count", of(longer + " box 3 5 2 1 1 1; joint a b 2 2 1 up;").moves(3, 2), 2);
-        due("shut in", of(longer + " box 3 3 2 1 1 1;").moves(3, 1), -1);
+        due("moves 1 still", Told.of(longer + ";").moves(3, 1), 1);
+        due("moves 2", Told.of(longer + " box 3 5 2 1 1 1;").moves(3, 1), 2);
+        due("moves 2 of the other half", Told.of(longer + " box 3 5 2 1 1 1;").moves(3, 2), 2);
+        due("a joint does not count", Told.of(longer + " box 3 5 2 1 1 1; joint a b 2 2 1 up;").moves(3, 2), 2);
+        due("shut in", Told.of(longer + " box 3 3 2 1 1 1;").moves(3, 1), -1);
         // a tube along x that is shut at both ends and has a hole far from where a is
         String tube = "part a box 1 3 3 1 1 1; part b box 0 3 3 1 1 1 box 7 3 3 1 1 1 box 1 4 3 5 1 1 box 1 2 3 6 1 1 box 1 3 4 6 1 1 box 1 3 2 6 1 1;";
         // a could leave eastwards but for the last cell of its way
         String late = "part a box 0 0 0 1 1 1 box 3 3 3 1 1 1; part b box 7 0 0 1 1 1 box 2 3 3 1 1 1 box 3 4 3 1 1 1 box 3 2 3 1 1 1 box 3 3 4 1 1 1 box 3 3 2 1 1 1;";
         for (int k = 0; k < 6; k++) {
-            due("moves to the hole, turned " + k, of(turned(tube, k)).moves(3, 1), 5);
-            due("moves of the tube, turned " + k, of(turned(tube, k)).moves(3, 2), 5);
-            due("moves before the last cell, turned " + k, of(turned(late, k)).moves(3, 1), 1);
-            due("moves before the last cell, the other, turned " + k, of(turned(late, k)).moves(3, 2), 1);
+            due("moves to the hole, turned " + k, Told.of(Told.turned(tube, k)).moves(3, 1), 5);
+            due("moves of the tube, turned " + k, Told.of(Told.turned(tube, k)).moves(3, 2), 5);
+            due("moves before the last cell, turned " + k, Told.of(Told.turned(late, k)).moves(3, 1), 1);
+            due("moves before the last cell, the other, turned " + k, Told.of(Told.turned(late, k)).moves(3, 2), 1);
             for (int shift = -1; shift < 4; shift++) {
-                String moved = shifted(longer + " box 3 5 2 1 1 1;", shift, Math.min(shift, 2), shift);
-                due("moves 2, shifted " + shift + ", turned " + k, of(turned(moved, k)).moves(3, 1), 2);
+                String moved = Told.shifted(longer + " box 3 5 2 1 1 1;", shift, Math.min(shift, 2), shift);
+                due("moves 2, shifted " + shift + ", turned " + k, Told.of(Told.turned(moved, k)).moves(3, 1), 2);
             }
         }
-        HandsOrder x = of(CAGE + "part c box 3 3 7 1 1 1;");
+        HandsOrder x = Told.of(Told.CAGE + "part c box 3 3 7 1 1 1;");
         due("moves in a cage", x.moves(3, 1), -1);
         due("moves of the free one", x.moves(7, 4), 0);
         due("without the cage", x.moves(5, 1), 0);
@@ -714,7 +607,7 @@ public final class PromiseTest {
     }
 
     private static void takingApart() {
-        HandsOrder x = of(TOWER);
+        HandsOrder x = Told.of(Told.TOWER);
         due("b up is barred", x.apart(2, 4), -1);
         due("where then", x.where(1), 7);
         due("a and c east", x.apart(5, 0), 2);
@@ -737,11 +630,11 @@ public final class PromiseTest {
         due("together", x.together(), 2);
         due("together again", x.together(), 0);
         due("where a", x.where(0), 7);
-        HandsOrder joined = of(JOINED);
+        HandsOrder joined = Told.of(Told.JOINED);
         due("a joint that is not reached", joined.apart(1, 1), -1);
         due("c leaves", joined.apart(4, 4), 2);
         due("then it is reached", joined.apart(1, 1), 3);
-        HandsOrder cage = of(CAGE);
+        HandsOrder cage = Told.of(Told.CAGE);
         due("cage", cage.apart(1, 4), -1);
         cage.bent(1, true);
         due("bent cage", cage.apart(1, 4), 2);
@@ -750,14 +643,14 @@ public final class PromiseTest {
     }
 
     private static void swollen() {
-        HandsOrder x = of("part a box 0 0 0 1 1 1; part b box 1 2 0 1 1 1; part c box 0 1 0 1 1 1;");
+        HandsOrder x = Told.of("part a box 0 0 0 1 1 1; part b box 1 2 0 1 1 1; part c box 0 1 0 1 1 1;");
         due("safe as it is", x.safeCut(3, 1, 0), 1);
         due("swollen north", x.swollen(0, 2, true), true);
         due("c has the cell", x.safeCut(3, 1, 0), 1);
-        HandsOrder taken = of("part a box 0 0 0 1 1 1; part b box 1 1 0 1 1 1; part c box 0 1 0 1 1 1;");
+        HandsOrder taken = Told.of("part a box 0 0 0 1 1 1; part b box 1 1 0 1 1 1; part c box 0 1 0 1 1 1;");
         taken.swollen(0, 2, true);
         due("c has the cell on b's line", taken.safeCut(3, 1, 0), 1);
-        HandsOrder free = of("part a box 0 0 0 1 1 1; part b box 1 1 0 1 1 1; part c box 5 5 5 1 1 1;");
+        HandsOrder free = Told.of("part a box 0 0 0 1 1 1; part b box 1 1 0 1 1 1; part c box 5 5 5 1 1 1;");
         free.swollen(0, 2, true);
         due("nobody has the cell on b's line", free.safeCut(3, 1, 0), 0);
         due("swollen east", x.swollen(0, 0, true), true);
@@ -795,7 +688,7 @@ public final class PromiseTest {
 
     private static void safe() {
         // a plate and another one that stands east of it and over it
-        HandsOrder x = of("part a box 0 0 0 2 2 1; part b box 3 0 0 1 2 1 box 0 0 2 2 2 1;");
+        HandsOrder x = Told.of("part a box 0 0 0 2 2 1; part b box 3 0 0 1 2 1 box 0 0 2 2 2 1;");
         due("orders", x.heap(3, 2), 1);
         due("safe orders", x.safe(0), 1);
         due("safe least", x.safe(1), 1);
@@ -808,14 +701,14 @@ public final class PromiseTest {
         due("b swollen north", x.swollen(1, 2, true), true);
         // now b has also 2 0..1 0 (west of it), and y = 2 over its cells: a at z 0 goes north freely, but west too
         due("the plan is safe still", x.safe(2), -1);
-        due("a cage has no safe order", of(CAGE).safe(0), 0);
-        due("a cage has no safe least", of(CAGE).safe(1), -1);
-        HandsOrder loose = of(CAGE);
+        due("a cage has no safe order", Told.of(Told.CAGE).safe(0), 0);
+        due("a cage has no safe least", Told.of(Told.CAGE).safe(1), -1);
+        HandsOrder loose = Told.of(Told.CAGE);
         loose.bent(1, true);
         due("with the cage bent", loose.safe(0), 1);
         due("with the cage bent, least", loose.safe(1), 1);
         due("with the cage bent, a cut", loose.safeCut(3, 1, 5), 1);
-        HandsOrder y = of("part a box 1 1 0 1 1 1; part b box 3 3 0 1 1 1; part c box 5 5 0 1 1 1;");
+        HandsOrder y = Told.of("part a box 1 1 0 1 1 1; part b box 3 3 0 1 1 1; part c box 5 5 0 1 1 1;");
         due("plan way", y.plan(0, 2), 0);
         y.swollen(1, 3, true);
         y.swollen(0, 0, true);
@@ -828,7 +721,7 @@ public final class PromiseTest {
         due("safe orders", y.safe(0), 3);
         due("safe least", y.safe(1), 2);
         due("a west is safe", y.safeCut(7, 1, 1), 1);
-        HandsOrder cage = of("part a box 3 3 3 1 1 1; part b box 4 3 3 1 1 1 box 2 3 3 1 1 1 box 3 4 3 1 1 1 box 3 2 3 1 1 1 box 3 3 2 1 1 1 box 4 3 6 1 1 1;");
+        HandsOrder cage = Told.of("part a box 3 3 3 1 1 1; part b box 4 3 3 1 1 1 box 2 3 3 1 1 1 box 3 4 3 1 1 1 box 3 2 3 1 1 1 box 3 3 2 1 1 1 box 4 3 6 1 1 1;");
         due("up alone", cage.safe(0), 1);
         due("swollen at the way out", cage.swollen(1, 1, true), true);
         due("no safe order", cage.safe(0), 0);
@@ -838,22 +731,22 @@ public final class PromiseTest {
     }
 
     private static void oneByOne() {
-        due("tower", of(TOWER).oneByOne(7), 3);
-        due("a pair", of(TOWER).oneByOne(5), 1);
-        due("a one", of(TOWER).oneByOne(2), 1);
-        due("four", of(parts(4)).oneByOne(15), 12);
-        due("nine", of(parts(9)).oneByOne(511), 181440);
-        due("pairs that go apart first", of(CORNERS).oneByOne(15), 0);
-        due("cage", of(CAGE).oneByOne(3), 0);
-        due("heap 0", of(TOWER).oneByOne(0), -1);
-        due("heap 8", of(TOWER).oneByOne(8), -1);
+        due("tower", Told.of(Told.TOWER).oneByOne(7), 3);
+        due("a pair", Told.of(Told.TOWER).oneByOne(5), 1);
+        due("a one", Told.of(Told.TOWER).oneByOne(2), 1);
+        due("four", Told.of(Told.parts(4)).oneByOne(15), 12);
+        due("nine", Told.of(Told.parts(9)).oneByOne(511), 181440);
+        due("pairs that go apart first", Told.of(Told.CORNERS).oneByOne(15), 0);
+        due("cage", Told.of(Told.CAGE).oneByOne(3), 0);
+        due("heap 0", Told.of(Told.TOWER).oneByOne(0), -1);
+        due("heap 8", Told.of(Told.TOWER).oneByOne(8), -1);
         for (int w : WRONG) {
-            due("oneByOne " + w, of(TOWER).oneByOne(w), -1);
+            due("oneByOne " + w, Told.of(Told.TOWER).oneByOne(w), -1);
         }
     }
 
     private static void judgedIs(HandsOrder x, String text, int... all) {
-        due("record " + text, record(x, text), all[0]);
+        due("record " + text, Told.record(x, text), all[0]);
         for (int what = 0; what < 4; what++) {
             due("judged " + what + " of " + text, x.judged(what), all[what]);
         }
@@ -861,7 +754,7 @@ public final class PromiseTest {
     }
 
     private static void records() {
-        HandsOrder x = of(JOINED);
+        HandsOrder x = Told.of(Told.JOINED);
         judgedIs(x, "c up; a west;", 2, 2, 0, -1);
         judgedIs(x, "b and a east;a west;", 2, 2, 0, -1);
         judgedIs(x, "a west; c up;", 0, 2, 3, 0);
@@ -878,19 +771,19 @@ public final class PromiseTest {
         due("judged -1", x.judged(-1), -1);
         x.bent(1, true);
         judgedIs(x, "c up; a east;", 2, 2, 0, -1);
-        HandsOrder many = of(parts(9));
+        HandsOrder many = Told.of(Told.parts(9));
         judgedIs(many, "a and b and c and d and e and f and g and h up;", 1, 1, 0, -1);
         judgedIs(many, "a up;".repeat(16), 1, 16, 1, -1);
-        HandsOrder wall = of("part a box 0 0 0 1 1 1; part b box 3 0 0 1 1 1; part c box 1 0 0 1 1 1; part d box 2 0 0 1 1 1;");
+        HandsOrder wall = Told.of("part a box 0 0 0 1 1 1; part b box 3 0 0 1 1 1; part c box 1 0 0 1 1 1; part d box 2 0 0 1 1 1;");
         judgedIs(wall, "a and d east;", 0, 1, 2, 1);
         judgedIs(wall, "a and c east;", 0, 1, 2, 1);
     }
 
     private static void faultyRecord(int which, String marked) {
-        HandsOrder x = of(TOWER + " part and box 7 7 7 1 1 1;");
-        record(x, "a west;");
+        HandsOrder x = Told.of(Told.TOWER + " part and box 7 7 7 1 1 1;");
+        Told.record(x, "a west;");
         int place = marked.indexOf('^');
-        due("record " + marked, record(x, marked.replace("^", "")), -1);
+        due("record " + marked, Told.record(x, marked.replace("^", "")), -1);
         due("fault of record " + marked, x.fault(0), which);
         due("place in record " + marked, x.fault(1), place);
         due("what was judged stays", x.judged(0), 1);
@@ -911,15 +804,15 @@ public final class PromiseTest {
         faultyRecord(3, "a up;".repeat(16) + " ^b and x");
         faultyRecord(2, "a up;".repeat(16) + "^x up;");
         faultyRecord(1, "a up;".repeat(16) + "^up;");
-        HandsOrder x = of(TOWER);
-        tell(x, "#");
+        HandsOrder x = Told.of(Told.TOWER);
+        Told.tell(x, "#");
         x.thing();
         due("a fault of a thing", x.fault(0), 1);
         judgedIs(x, "a west;", 1, 1, 0, -1);
     }
 
     private static void pulls() {
-        HandsOrder x = of("part a box 2 2 2 2 1 1; part b box 0 2 4 6 1 1;");
+        HandsOrder x = Told.of("part a box 2 2 2 2 1 1; part b box 0 2 4 6 1 1;");
         due("seen from above, pulled north", x.pull(3, 1, 2, 4), 1);
         due("pulled east", x.pull(3, 1, 0, 4), 4);
         due("pulled west", x.pull(3, 1, 1, 4), 4);
@@ -934,7 +827,7 @@ public final class PromiseTest {
         for (int side = 0; side < 6; side++) {
             int[] at = {3, 3, 3};
             at[side / 2] += side % 2 == 0 ? -2 : 2;
-            HandsOrder y = of("part a box " + at[0] + " " + at[1] + " " + at[2] + " 1 1 1; part b box 3 3 3 1 1 1;");
+            HandsOrder y = Told.of("part a box " + at[0] + " " + at[1] + " " + at[2] + " 1 1 1; part b box 3 3 3 1 1 1;");
             for (int way = 0; way < 6; way++) {
                 int due = way / 2 != side / 2 ? 1 : way == side ? 2 : -1;
                 due("pull behind, side " + side + " way " + way, y.pull(3, 1, way, side), due);
@@ -944,12 +837,12 @@ public final class PromiseTest {
                 due("view from the other side " + side, y.view(3, 1, side ^ 1), 1);
             }
         }
-        HandsOrder edge = of("part a box 7 0 0 1 1 1; part b box 0 0 0 1 1 1 box 7 0 7 1 1 1;");
+        HandsOrder edge = Told.of("part a box 7 0 0 1 1 1; part b box 0 0 0 1 1 1 box 7 0 7 1 1 1;");
         due("beyond the edge", edge.pull(3, 1, 0, 4), 1);
         due("from the west", edge.pull(3, 1, 1, 1), 7);
         due("from the west, pulled away", edge.pull(3, 1, 0, 1), -1);
         due("from the west, pulled aside beyond the edge", edge.pull(3, 1, 3, 1), 1);
-        HandsOrder own = of("part a box 0 0 0 1 1 1 box 2 0 0 1 1 1; part b box 1 0 0 1 1 1;");
+        HandsOrder own = Told.of("part a box 0 0 0 1 1 1 box 2 0 0 1 1 1; part b box 1 0 0 1 1 1;");
         due("the first one of the half is ahead", own.pull(3, 1, 4, 0), 0);
         due("b is behind", own.pull(3, 2, 0, 0), 1);
         due("way 6", x.pull(3, 1, 6, 0), -1);
@@ -965,7 +858,7 @@ public final class PromiseTest {
     }
 
     private static void likes() {
-        HandsOrder x = of("part a box 0 0 0 2 1 1 box 0 1 0 1 1 1 box 0 0 1 1 1 1; part b box 6 5 6 2 1 1 box 7 6 6 1 1 1 box 7 5 7 1 1 1;"
+        HandsOrder x = Told.of("part a box 0 0 0 2 1 1 box 0 1 0 1 1 1 box 0 0 1 1 1 1; part b box 6 5 6 2 1 1 box 7 6 6 1 1 1 box 7 5 7 1 1 1;"
                 + " part c box 4 0 0 2 1 1 box 4 1 0 1 1 1 box 4 0 1 1 1 1; part d box 0 4 0 3 1 1; part e box 0 6 0 1 1 3; part f box 4 4 0 2 1 1;");
         int[] ab = {0, 1, 0, 0};
         int[] ac = {1, 0, 0, 0};
@@ -993,16 +886,16 @@ public final class PromiseTest {
             due("mirrored a " + axis, x.mirrored(0, axis), 1);
             due("mirrored d " + axis, x.mirrored(3, axis), 0);
         }
-        HandsOrder y = of("part a box 5 5 5 2 1 1 box 5 6 5 1 1 1; part b box 6 6 5 1 1 1;");
+        HandsOrder y = Told.of("part a box 5 5 5 2 1 1 box 5 6 5 1 1 1; part b box 6 6 5 1 1 1;");
         due("b is in the way", y.mirrored(0, 0), 0);
         due("b is in the way in y", y.mirrored(0, 1), 0);
         due("it is its own mirror in z", y.mirrored(0, 2), 0);
-        HandsOrder z = of("part a box 5 5 5 2 1 1 box 5 6 5 1 1 1; part b box 2 6 5 1 1 1;");
+        HandsOrder z = Told.of("part a box 5 5 5 2 1 1 box 5 6 5 1 1 1; part b box 2 6 5 1 1 1;");
         due("turned within its own bounds", z.mirrored(0, 0), 1);
     }
 
     private static void times() {
-        HandsOrder x = of(TOWER);
+        HandsOrder x = Told.of(Told.TOWER);
         due("c up", x.minutes(7, 4, 4), 0);
         due("c east", x.minutes(7, 4, 0), 0);
         due("b east", x.minutes(7, 2, 0), 1);
@@ -1010,25 +903,25 @@ public final class PromiseTest {
         due("alone", x.time(7, 0), 0);
         due("by two", x.time(7, 1), 0);
         // a peg in a deep hole that is open above: none of the hole's cells is within the peg's bounds
-        HandsOrder peg = of("part a box 1 1 1 1 1 3; part b box 0 0 0 3 3 1 box 0 0 1 1 3 4 box 2 0 1 1 3 4 box 1 0 1 1 1 4 box 1 2 1 1 1 4;");
+        HandsOrder peg = Told.of("part a box 1 1 1 1 1 3; part b box 0 0 0 3 3 1 box 0 0 1 1 3 4 box 2 0 1 1 3 4 box 1 0 1 1 1 4 box 1 2 1 1 1 4;");
         due("the peg out of the hole", peg.minutes(3, 1, 4), 4);
         due("the hole from the peg", peg.minutes(3, 2, 5), 0);
         due("not good", peg.minutes(3, 1, 0), -1);
         due("the better half", peg.time(3, 0), 0);
         // a hook in an eye, three thick: they part northwards or southwards alone
         String hook = "part a box 1 0 0 1 3 1 box 1 0 1 3 3 1; part b box 2 0 0 1 3 1 box 2 0 2 1 3 1 box 0 0 2 2 3 1 box 0 0 0 1 3 2;";
-        HandsOrder y = of(hook);
+        HandsOrder y = Told.of(hook);
         due("the hook", y.minutes(3, 1, 2), 3);
         due("the eye", y.minutes(3, 2, 3), 3);
         due("alone", y.time(3, 0), 3);
         due("by two", y.time(3, 1), 3);
         due("a one", y.time(1, 0), 0);
-        HandsOrder two = of(hook + " part c box 5 5 0 1 2 1 box 5 5 1 3 2 1; part d box 6 5 0 1 2 1 box 6 5 2 1 2 1 box 4 5 2 2 2 1 box 4 5 0 1 2 2;");
+        HandsOrder two = Told.of(hook + " part c box 5 5 0 1 2 1 box 5 5 1 3 2 1; part d box 6 5 0 1 2 1 box 6 5 2 1 2 1 box 4 5 2 2 2 1 box 4 5 0 1 2 2;");
         due("the second hook", two.minutes(12, 4, 2), 2);
         due("both pairs, alone", two.time(15, 0), 5);
         due("both pairs, by two", two.time(15, 1), 3);
-        due("the cage has none", of(CAGE).time(3, 0), -1);
-        due("the cage has none by two", of(CAGE).time(3, 1), -1);
+        due("the cage has none", Told.of(Told.CAGE).time(3, 0), -1);
+        due("the cage has none by two", Told.of(Told.CAGE).time(3, 1), -1);
         due("what 2", x.time(7, 2), -1);
         due("heap 8", x.time(8, 0), -1);
         due("heap 0", x.time(0, 0), -1);

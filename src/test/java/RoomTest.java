@@ -13,17 +13,6 @@ public final class RoomTest {
         wrong += got > most ? 1 : 0;
     }
 
-    private static void tell(HandsOrder x, String text) {
-        for (int at = 0; at < text.length(); at += 20) {
-            int[] n = new int[5];
-            for (int k = 0; k < 20; k++) {
-                n[k / 4] = n[k / 4] << 8 | (at + k < text.length() ? text.charAt(at + k) & 255 : 32);
-            }
-            x.feed(n[0], n[1], n[2], n[3], n[4]);
-        }
-        x.end(text.length());
-    }
-
     private static long made() {
         return THREADS.getThreadAllocatedBytes(Thread.currentThread().getId());
     }
@@ -38,14 +27,14 @@ public final class RoomTest {
 
     public static void main(String[] args) {
         HandsOrder x = new HandsOrder();
-        tell(x, NINE);
+        Told.tell(x, NINE);
         x.thing();
         everyCall(x);
         long before = made();
         HandsOrder y = new HandsOrder();
         atMost("bytes of a new object", made() - before, 64_000);
         before = made();
-        tell(y, NINE);
+        Told.tell(y, NINE);
         sink += y.thing();
         everyCall(y);
         atMost("bytes of one call of each kind", made() - before, 4_000);
