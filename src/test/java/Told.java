@@ -19,6 +19,9 @@ final class Told {
     /** c between two shells: it can't leave both of them, so of the live heaps without it there are a and b alone. */
     static final String SHELLS = "part a box 3 3 4 1 1 1 box 4 3 3 1 1 1 box 3 4 3 1 1 1; part b box 3 3 2 1 1 1 box 2 3 3 1 1 1 box 3 2 3 1 1 1;"
             + " part c box 3 3 3 1 1 1;";
+    /** Joints are covered so that first e leaves, then d, then c, and a and b part last. */
+    static final String DEEP = "part a box 0 0 0 1 1 1; part b box 2 0 0 1 1 1; part c box 4 4 4 1 1 1; part d box 6 6 6 1 1 1; part e box 1 6 6 1 1 1;"
+            + " joint a b 4 4 3 up; joint a c 6 6 5 up; joint b c 6 6 5 up; joint d a 1 6 5 up; joint d b 1 6 5 up; joint d c 1 6 5 up;";
     static final String ONE_CELL = "part a box 0 0 0 1 1 1;";
     static final String TWO_CELLS = "part a box 0 0 0 1 1 1; part b box 1 0 0 1 1 1; ";
 
@@ -121,6 +124,12 @@ final class Told {
             }
             return box.toString();
         });
+    }
+
+    /** What a way becomes if the boxes are turned so. */
+    static int turnedWay(int way, int k) {
+        int axis = (way / 2 + 3 - k % 3) % 3;
+        return 2 * axis + (k < 3 ? way % 2 : 1 - way % 2);
     }
 
     static String shifted(String text, int dx, int dy, int dz) {
