@@ -294,9 +294,9 @@ final class ApartBoundaries {
             Told.thing(x, "part b box 0 0 0 1 1 1; part c box 3 1 0 1 1 1; part a box 7 7 7 1 1 1;");
             x.swollen(0, 2, true);
             s.due("the first is not", x.safe(2), 0);
-            Told.thing(x, APART);
-            x.swollen(1, 2, true);
-            s.due("asked first of a thing", x.safe(2), 1);
+            HandsOrder first = Told.of(APART);
+            first.swollen(1, 2, true);
+            s.due("asked first of a thing", first.safe(2), 1);
             s.due("no plan of a never", Told.of(Told.CAGE).safe(2), -1);
             s.due("no plan of a one", Told.of(Told.ONE_CELL).safe(2), -1);
             s.due("no plan of nothing", new HandsOrder().safe(2), -1);

@@ -219,6 +219,10 @@ final class NetBoundaries {
                 s.due("a about a corner, turned " + k, bend.moves(3, 1), 8);
                 s.due("b about a corner, turned " + k, bend.moves(3, 2), 8);
                 s.due("a about a corner again, turned " + k, bend.moves(3, 1), 8);
+                String nearer = BEND.replace("box 0 4 3 6 1 1", "box 0 4 3 5 1 1");
+                s.due("a about a corner to a nearer hole, turned " + k, Told.of(Told.turned(nearer, k)).moves(3, 1), 7);
+                String farther = BEND.replace("box 0 4 3 6 1 1", "box 0 4 3 7 1 1").replace("box 1 3 4 6 1 1", "box 1 3 4 5 1 1 box 7 3 4 1 1 1 box 6 2 4 1 1 1 box 6 3 5 1 1 1");
+                s.due("a about two corners, turned " + k, Told.of(Told.turned(farther, k)).moves(3, 1), 9);
             }
         });
         s.holds(19, "NONE if it does not come out, or one can't be.", () -> {
@@ -280,6 +284,11 @@ final class NetBoundaries {
                     }
                 }
                 s.due("beyond the edge, " + text, Told.of(text + ";").moves(3, 1), 0);
+            }
+            // one cell of a goes north in a pit and then west, the other one beyond the edge at 0 1 0, which is next to 7 0 0 if rows followed on one another
+            String corner = "part a box 0 0 0 1 1 1 box 3 3 3 1 1 1; part b box 7 0 0 1 1 1 box 4 3 3 1 2 1 box 2 3 3 1 1 1 box 3 2 3 1 1 1 box 3 5 3 1 1 1 box 3 3 4 1 2 1 box 3 3 2 1 2 1;";
+            for (int k = 0; k < 6; k++) {
+                s.due("beyond the edge behind a corner, turned " + k, Told.of(Told.turned(corner, k)).moves(3, 1), 1);
             }
         });
     }

@@ -188,14 +188,16 @@ final class ShapeBoundaries {
             s.row("b beside", axis -> Told.of(EL + "part b box 5 4 4 1 1 1;").mirrored(0, axis), 1, 1, 0);
             s.row("b where it would come in all of 0 .. 7", axis -> Told.of(EL + "part b box 5 4 4 1 1 1 box 3 3 3 3 1 1 box 2 3 3 1 1 1;").mirrored(0, axis), 1, 1, 0);
             for (int k = 0; k < 6; k++) {
-                // b has all cells beyond the bounds of a, at either edge
-                HandsOrder mold = Told.of(Told.turned("part a box 5 6 7 3 1 1 box 5 7 7 1 1 1; part b box 0 0 0 5 8 8 box 5 0 0 3 6 8 box 5 6 0 3 2 7;", k));
-                s.due("in a mold, x, turned " + k, mold.mirrored(0, Told.turnedWay(0, k) / 2), 1);
-                s.due("in a mold, y, turned " + k, mold.mirrored(0, Told.turnedWay(2, k) / 2), 1);
-                s.due("in a mold, z, turned " + k, mold.mirrored(0, Told.turnedWay(4, k) / 2), 0);
-                HandsOrder step = Told.of(Told.turned("part a box 5 5 5 1 1 3 box 6 5 5 1 1 1; part b box 0 0 0 5 8 8 box 5 0 0 3 8 5 box 5 0 5 3 5 3 box 5 6 5 3 2 3;", k));
-                s.due("a step in a mold, x, turned " + k, step.mirrored(0, Told.turnedWay(0, k) / 2), 1);
-                s.due("a step in a mold, z, turned " + k, step.mirrored(0, Told.turnedWay(4, k) / 2), 1);
+                // b has all cells beyond the bounds of a, at either edge; then also one to which a comes
+                String foot = Told.turned("part a box 5 6 7 3 1 1 box 5 7 7 1 1 1; part b box 0 0 0 5 8 8 box 5 0 0 3 6 8 box 5 6 0 3 2 7", k);
+                String step = Told.turned("part a box 5 5 5 1 1 3 box 6 5 5 1 1 1; part b box 0 0 0 5 8 8 box 5 0 0 3 8 5 box 5 0 5 3 5 3 box 5 6 5 3 2 3", k);
+                int[] axes = {Told.turnedWay(0, k) / 2, Told.turnedWay(2, k) / 2, Told.turnedWay(4, k) / 2};
+                s.row("a foot in a mold, turned " + k, axis -> Told.of(foot + ";").mirrored(0, axes[axis]), 1, 1, 0);
+                s.row("a step in a mold, turned " + k, axis -> Told.of(step + ";").mirrored(0, axes[axis]), 1, 0, 1);
+                String inFoot = Told.turned(" box 7 7 7 1 1 1;", k);
+                String inStep = Told.turned(" box 6 5 7 1 1 1;", k);
+                s.row("a foot in a mold that is filled, turned " + k, axis -> Told.of(foot + inFoot).mirrored(0, axes[axis]), 0, 0, 0);
+                s.row("a step in a mold that is filled, turned " + k, axis -> Told.of(step + inStep).mirrored(0, axes[axis]), 0, 0, 0);
             }
             s.row("the last of nine is in the way", axis -> Told.of(EL + "part b box 0 0 0 1 1 1; part c box 1 0 0 1 1 1; part d box 2 0 0 1 1 1; part e box 3 0 0 1 1 1;"
                     + "part f box 4 0 0 1 1 1; part g box 5 0 0 1 1 1; part h box 6 0 0 1 1 1; part i box 4 4 4 1 1 1;").mirrored(0, axis), 0, 0, 0);
