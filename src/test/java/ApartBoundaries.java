@@ -226,7 +226,7 @@ final class ApartBoundaries {
         int[] at = {3, 3, 3};
         at[up / 2] += up % 2 == 0 ? 2 : -2;
         for (int far = 1; far < 3; far++) {
-            HandsOrder x = Told.of("part a box 3 3 3 1 1 1; part b box " + Told.spot(at[0], at[1], at[2], way, far) + " 1 1 1;");
+            HandsOrder x = Told.of("part a box 3 3 3 1 1 1; part b box " + Told.away(at[0], at[1], at[2], way, far) + " 1 1 1;");
             s.due("as it is", x.safeCut(3, 1, up), 1);
             x.swollen(0, way ^ 1, true);
             s.due("swollen on the other side", x.safeCut(3, 1, up), 1);

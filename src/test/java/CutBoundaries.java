@@ -41,7 +41,7 @@ final class CutBoundaries {
             for (int way = 0; way < 6; way++) {
                 int edge = way % 2 == 0 ? 0 : 7;
                 for (int far = 1; far < 8; far++) {
-                    HandsOrder x = Told.of("part a box " + Told.spot(edge, edge, edge, way, 0) + " 1 1 1; part b box " + Told.spot(edge, edge, edge, way, far) + " 1 1 1;");
+                    HandsOrder x = Told.of(Told.part("a", Told.spot(edge, edge, edge)) + Told.part("b", Told.away(edge, edge, edge, way, far)));
                     for (int other = 0; other < 6; other++) {
                         s.due("bars a on " + other + ", b is on " + way, x.bars(0, other), other == way ? 2 : 0);
                         s.due("bars b on " + other + ", a is behind " + way, x.bars(1, other), other == (way ^ 1) ? 1 : 0);
@@ -49,7 +49,7 @@ final class CutBoundaries {
                 }
             }
             for (int k = 0; k < AROUND.length; k++) {
-                HandsOrder x = Told.of("part a box " + AROUND[k][0] + " 1 1 1; part b box " + AROUND[k][1] + " 1 1 1;");
+                HandsOrder x = Told.of(Told.part("a", AROUND[k][0]) + Told.part("b", AROUND[k][1]));
                 s.due("beyond the edge, bars " + AROUND[k][0] + " " + AROUND[k][1], x.bars(0, WAYS_AROUND[k]), 0);
             }
             HandsOrder own = Told.of("part a box 0 0 0 1 1 1 box 2 0 0 1 1 1; part b box 4 0 0 1 1 1;");
@@ -240,7 +240,7 @@ final class CutBoundaries {
                 int edge = way % 2 == 0 ? 0 : 7;
                 String joint = " 1 1 1; joint a b " + edge + " " + edge + " " + edge + " " + Model.WAYS.get(way) + ";";
                 for (int far = 0; far < 8; far++) {
-                    HandsOrder x = Told.of(pair + Told.spot(edge, edge, edge, way, far) + joint);
+                    HandsOrder x = Told.of(pair + Told.away(edge, edge, edge, way, far) + joint);
                     s.due("c is " + far + " from the joint on " + way, x.cut(7, 1, 4), far == 0 ? 1 : 0);
                     s.due("c is not of the heap", x.cut(3, 1, 4), 1);
                 }
@@ -277,8 +277,8 @@ final class CutBoundaries {
                 int far = way % 2 == 0 ? c[way / 2] : -c[way / 2];
                 c[way / 2] = 0;
                 HandsOrder thing = new HandsOrder();
-                int parts = Told.thing(thing, "part a box 0 0 0 1 1 1; part b box 7 7 7 1 1 1; part c box " + n % 8 + " " + n / 8 % 8 + " " + n / 64 + " 1 1 1; joint a b "
-                        + x + " " + y + " " + z + " " + Model.WAYS.get(way) + ";");
+                String joint = "joint a b " + Told.spot(x, y, z) + " " + Model.WAYS.get(way) + ";";
+                int parts = Told.thing(thing, Told.part("a", "0 0 0") + Told.part("b", "7 7 7") + Told.part("c", Told.spot(n % 8, n / 8 % 8, n / 64)) + joint);
                 for (int p = 0; p < parts; p++) {
                     thing.bent(p, true);
                 }

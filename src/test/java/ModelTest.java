@@ -8,7 +8,7 @@ import java.util.Set;
 public final class ModelTest {
     private static final String[] NAMES = {"a", "and", "bolt", "lid", "cup", "ring", "washer", "e", "tub", "x", "boxes"};
     /** Which kind each argument of a call has: p part, w way, s set, h half of the set before it, t what, n a small number. */
-    private static final String[] KINDS = {
+    static final String[] KINDS = {
         "nnn", "pw", "wn", "pnnb", "shw", "st", "t", "nt", "swt", "p", "p", "ppt", "shw", "sh", "hw", "p", "",
         "pwnb", "t", "shw", "s", "s", "t", "shww", "ppt", "pt", "shw", "st", "n", "nnnn"};
 

@@ -171,12 +171,12 @@ final class NetBoundaries {
         });
         s.holds(18, "(that with the greatest x for east, the least for west, and so on)", () -> {
             for (int way = 0; way < 6; way++) {
-                HandsOrder x = Told.of("part a box " + Told.spot(3, 3, 3, way, 3) + " 1 1 1 box 3 3 3 1 1 1; part b box " + Told.spot(3, 3, 3, way, 1) + " 1 1 1;");
+                HandsOrder x = Told.of("part a box " + Told.away(3, 3, 3, way, 3) + " 1 1 1 box 3 3 3 1 1 1; part b box " + Told.away(3, 3, 3, way, 1) + " 1 1 1;");
                 s.due("the first cell is a's, from " + way, x.view(3, 1, way), 1);
                 s.due("the first cell is not b's, from " + way, x.view(3, 2, way), 0);
                 s.due("from the other side", x.view(3, 1, way ^ 1), 1);
                 s.due("b from the other side", x.view(3, 2, way ^ 1), 0);
-                HandsOrder three = Told.of("part a box 3 3 3 1 1 1; part b box " + Told.spot(3, 3, 3, way, 3) + " 1 1 1; part c box 7 7 7 1 1 1;");
+                HandsOrder three = Told.of("part a box 3 3 3 1 1 1; part b box " + Told.away(3, 3, 3, way, 3) + " 1 1 1; part c box 7 7 7 1 1 1;");
                 s.due("a behind b", three.view(7, 1, way), 0);
                 s.due("b is not of the heap", three.view(5, 1, way), 1);
                 s.due("b is of the half", three.view(7, 3, way), 1);
@@ -196,7 +196,7 @@ final class NetBoundaries {
         s.holds(18, "THE SIDE: the greatest VIEW, of several the least WAY", () -> {
             StringBuilder text = new StringBuilder("part a box 3 3 3 1 1 1; part b");
             for (int hidden = 0; hidden < 6; hidden++) {
-                text.append(" box ").append(Told.spot(3, 3, 3, hidden, 2)).append(" 1 1 1");
+                text.append(" box ").append(Told.away(3, 3, 3, hidden, 2)).append(" 1 1 1");
                 s.due("hidden from ways 0 .. " + hidden, Told.of(text + ";").view(3, 1, 6), (hidden + 1) % 6);
             }
             s.due("seen alike from all", Told.of("part a box 0 0 0 1 1 1; part b box 5 5 5 1 1 1;").view(3, 1, 6), 0);
@@ -221,7 +221,8 @@ final class NetBoundaries {
                 s.due("a about a corner again, turned " + k, bend.moves(3, 1), 8);
                 String nearer = BEND.replace("box 0 4 3 6 1 1", "box 0 4 3 5 1 1");
                 s.due("a about a corner to a nearer hole, turned " + k, Told.of(Told.turned(nearer, k)).moves(3, 1), 7);
-                String farther = BEND.replace("box 0 4 3 6 1 1", "box 0 4 3 7 1 1").replace("box 1 3 4 6 1 1", "box 1 3 4 5 1 1 box 7 3 4 1 1 1 box 6 2 4 1 1 1 box 6 3 5 1 1 1");
+                String farther = BEND.replace("box 0 4 3 6 1 1", "box 0 4 3 7 1 1")
+                        .replace("box 1 3 4 6 1 1", "box 1 3 4 5 1 1 box 7 3 4 1 1 1 box 6 2 4 1 1 1 box 6 3 5 1 1 1");
                 s.due("a about two corners, turned " + k, Told.of(Told.turned(farther, k)).moves(3, 1), 9);
             }
         });
@@ -278,7 +279,7 @@ final class NetBoundaries {
                 StringBuilder text = new StringBuilder("part a box " + CutBoundaries.AROUND[k][0] + " 1 1 1; part b box " + CutBoundaries.AROUND[k][1] + " 1 1 1");
                 String[] at = CutBoundaries.AROUND[k][0].split(" ");
                 for (int way = 0; way < 6; way++) {
-                    String wall = Told.spot(Integer.parseInt(at[0]), Integer.parseInt(at[1]), Integer.parseInt(at[2]), way, 1);
+                    String wall = Told.away(Integer.parseInt(at[0]), Integer.parseInt(at[1]), Integer.parseInt(at[2]), way, 1);
                     if (wall.matches("[0-7] [0-7] [0-7]")) {
                         text.append(" box ").append(wall).append(" 1 1 1");
                     }
@@ -286,7 +287,8 @@ final class NetBoundaries {
                 s.due("beyond the edge, " + text, Told.of(text + ";").moves(3, 1), 0);
             }
             // one cell of a goes north in a pit and then west, the other one beyond the edge at 0 1 0, which is next to 7 0 0 if rows followed on one another
-            String corner = "part a box 0 0 0 1 1 1 box 3 3 3 1 1 1; part b box 7 0 0 1 1 1 box 4 3 3 1 2 1 box 2 3 3 1 1 1 box 3 2 3 1 1 1 box 3 5 3 1 1 1 box 3 3 4 1 2 1 box 3 3 2 1 2 1;";
+            String corner = "part a box 0 0 0 1 1 1 box 3 3 3 1 1 1; part b box 7 0 0 1 1 1 box 4 3 3 1 2 1 box 2 3 3 1 1 1 box 3 2 3 1 1 1"
+                    + " box 3 5 3 1 1 1 box 3 3 4 1 2 1 box 3 3 2 1 2 1;";
             for (int k = 0; k < 6; k++) {
                 s.due("beyond the edge behind a corner, turned " + k, Told.of(Told.turned(corner, k)).moves(3, 1), 1);
             }

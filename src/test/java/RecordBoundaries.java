@@ -79,7 +79,8 @@ final class RecordBoundaries {
                 s.due("way " + way, Told.record(Told.of(Told.TOWER), "a " + way + ";"), way.equals("up") ? 0 : 1);
             }
         });
-        s.holds(28, "FAULTS as above: 1", () -> faulty(1, "^;", "^1", "^#", "a^;", "a ^1", "a ^b up;", "a ^part", "a ^upp;", "a and ^;", "a and ^1", "a up ^up;", "a up ^and b;",
+        s.holds(28, "FAULTS as above: 1", () -> faulty(1, "^;", "^1", "^#", "a^;", "a ^1", "a ^b up;", "a ^part", "a ^upp;", "a and ^;", "a and ^1",
+                "a up ^up;", "a up ^and b;",
                 "a up^1;", "a up;^;", "a up; ^down;", "^toolong up;", "a and ^toolong", "a up;\n^A", "^" + (char) 0, "a^" + (char) 9 + "up;", "a up;^" + (char) 160,
                 "a^", "a ^", "a and^", "a and ^", "a up^", "a up\n ^", "a up; b^", "sixsix^", SIXTEEN + "^;", SIXTEEN + "^up;"));
         s.holds(28, "2 (at the NAME: no PART has it, or it is told twice in a STEP)", () -> {

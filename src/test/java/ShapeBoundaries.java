@@ -39,7 +39,7 @@ final class ShapeBoundaries {
         s.holds(30, "none of the rest is met, coming from that side, ahead of the first one of the HALF", () -> {
             for (int side = 0; side < 6; side++) {
                 int back = side ^ 1;
-                HandsOrder x = Told.of("part a box " + Told.spot(3, 3, 3, back, 2) + " 1 1 1; part b box 3 3 3 1 1 1; part c box " + Told.spot(3, 3, 3, side, 2) + " 1 1 1;");
+                HandsOrder x = Told.of(Told.part("a", Told.away(3, 3, 3, back, 2)) + Told.part("b", "3 3 3") + Told.part("c", Told.away(3, 3, 3, side, 2)));
                 s.due("b ahead of a", x.pull(3, 1, side, side), 2);
                 s.due("a behind b", x.pull(3, 2, side, side), 0);
                 s.due("b and c ahead of a", x.pull(7, 1, side, side), 4);
@@ -76,8 +76,7 @@ final class ShapeBoundaries {
                         int[] plate = {0, 0, 0, 8, 8, 8};
                         plate[side / 2] = side % 2 == 0 ? 5 : 1;
                         plate[3 + side / 2] = 1;
-                        HandsOrder x = Told.of("part a box " + at[0] + " " + at[1] + " " + at[2] + " 1 1 1; part b box " + plate[0] + " " + plate[1] + " " + plate[2] + " "
-                                + plate[3] + " " + plate[4] + " " + plate[5] + ";");
+                        HandsOrder x = Told.of(Told.part("a", Told.spot(at)) + "part b box " + Told.spot(plate) + ";");
                         s.due("from under a plate on " + way + ", seen from " + side, x.pull(3, 1, way, side), 1);
                         s.due("all along under it", x.pull(3, 1, way ^ 1, side), 8);
                     }
@@ -90,7 +89,7 @@ final class ShapeBoundaries {
                     int[] at = {3, 3, 3};
                     at[(side / 2 + 1) % 3] = 7 * (corner % 2);
                     at[(side / 2 + 2) % 3] = 7 * (corner / 2);
-                    HandsOrder x = Told.of("part a box " + at[0] + " " + at[1] + " " + at[2] + " 1 1 1; part b box " + Told.spot(at[0], at[1], at[2], side, 2) + " 1 1 1;");
+                    HandsOrder x = Told.of(Told.part("a", Told.spot(at)) + Told.part("b", Told.away(at[0], at[1], at[2], side, 2)));
                     s.due("corner " + corner + " from " + side + ", away", x.pull(3, 1, side ^ 1, side), -1);
                     s.due("corner " + corner + " from " + side + ", nearer", x.pull(3, 1, side, side), 2);
                 }
@@ -126,8 +125,8 @@ final class ShapeBoundaries {
             s.row("the first and the last cell", what -> x.like(0, 7, what), 1, 1, 1, 1);
         });
         s.holds(31, "PARTS are LIKE one another, if the one moved (not turned) has just the CELLS of the other", () -> {
-            HandsOrder x = Told.of("part a box 0 0 0 2 1 1; part b box 6 7 7 2 1 1; part c box 3 3 3 1 2 1; part d box 0 2 2 3 1 1; part e box 7 4 0 1 1 1 box 0 5 0 1 1 1;"
-                    + " part f box 7 7 2 1 1 1 box 7 0 3 1 1 1; part g box 5 5 0 1 2 1;");
+            HandsOrder x = Told.of("part a box 0 0 0 2 1 1; part b box 6 7 7 2 1 1; part c box 3 3 3 1 2 1; part d box 0 2 2 3 1 1;"
+                    + " part e box 7 4 0 1 1 1 box 0 5 0 1 1 1; part f box 7 7 2 1 1 1 box 7 0 3 1 1 1; part g box 5 5 0 1 2 1;");
             s.row("a and ..", q -> x.like(0, q, 0), 1, 1, 0, 0, 0, 0, 0);
             s.row(".. and a", p -> x.like(p, 0, 0), 1, 1, 0, 0, 0, 0, 0);
             s.row("c and ..", q -> x.like(2, q, 0), 0, 0, 1, 0, 0, 0, 1);
@@ -199,8 +198,16 @@ final class ShapeBoundaries {
                 s.row("a foot in a mold that is filled, turned " + k, axis -> Told.of(foot + inFoot).mirrored(0, axes[axis]), 0, 0, 0);
                 s.row("a step in a mold that is filled, turned " + k, axis -> Told.of(step + inStep).mirrored(0, axes[axis]), 0, 0, 0);
             }
-            s.row("the last of nine is in the way", axis -> Told.of(EL + "part b box 0 0 0 1 1 1; part c box 1 0 0 1 1 1; part d box 2 0 0 1 1 1; part e box 3 0 0 1 1 1;"
-                    + "part f box 4 0 0 1 1 1; part g box 5 0 0 1 1 1; part h box 6 0 0 1 1 1; part i box 4 4 4 1 1 1;").mirrored(0, axis), 0, 0, 0);
+            for (int at = 0; at < 6; at++) {
+                for (int k = 0; k < 6; k++) {
+                    int axis = Told.turnedWay(0, k) / 2;
+                    String text = "part a box " + at + " 3 4 3 1 1 box " + at + " 4 4 1 1 1; part b box ";
+                    s.due("b where the foot comes, at " + at + ", turned " + k, Told.of(Told.turned(text + (at + 2) + " 4 4 1 1 1;", k)).mirrored(0, axis), 0);
+                    s.due("b beside it, at " + at + ", turned " + k, Told.of(Told.turned(text + (at + 1) + " 4 4 1 1 1;", k)).mirrored(0, axis), 1);
+                }
+            }
+            HandsOrder nine = Told.of(Told.parts(8).replace("part a box 0 0 0 1 1 1;", EL) + Told.part("i", "4 4 4"));
+            s.row("the last of nine is in the way", axis -> nine.mirrored(0, axis), 0, 0, 0);
         });
         s.holds(32, "NONE if one can't be.", () -> {
             HandsOrder x = Told.of(EL);
@@ -254,8 +261,7 @@ final class ShapeBoundaries {
         for (int n = 0; n < 512; n++) {
             int[] a = {n % 8, n / 8 % 8, n / 64};
             HandsOrder thing = new HandsOrder();
-            int parts = Told.thing(thing, "part b box " + x + " " + y + " " + z + " 1 1 1 box " + x2 + " " + y2 + " " + z2 + " 1 1 1; part a box " + a[0] + " " + a[1] + " " + a[2]
-                    + " 1 1 1;");
+            int parts = Told.thing(thing, "part b box " + Told.spot(x, y, z) + " 1 1 1 box " + Told.spot(x2, y2, z2) + " 1 1 1;" + Told.part("a", Told.spot(a)));
             boolean in = a[0] >= x && a[0] <= x2 && a[1] >= y && a[1] <= y2 && a[2] >= z && a[2] <= z2;
             int[] out = {x2 + 1 - a[0], a[0] + 1 - x, y2 + 1 - a[1], a[1] + 1 - y, z2 + 1 - a[2], a[2] + 1 - z};
             for (int way = 0; way < 6 && parts == 2; way++) {

@@ -278,7 +278,8 @@ final class TextBoundaries {
 
     /** Each question, asked alone or behind others, of a new object or of one that had another thing, has the same answer. */
     private void nothingStaysOfAnother() {
-        String[] texts = {Told.parts(9), CutBoundaries.CAGE_AND_FREE, Told.TOWER, ApartBoundaries.HUG, Told.DEEP, CutBoundaries.POLE, Told.CORNERS, Told.WHEEL, Told.SHELLS};
+        String[] texts = {Told.parts(9), CutBoundaries.CAGE_AND_FREE, Told.TOWER, ApartBoundaries.HUG, Told.DEEP, CutBoundaries.POLE, Told.CORNERS,
+            Told.WHEEL, Told.SHELLS};
         HandsOrder before = used();
         for (String text : texts) {
             HandsOrder used = before;
@@ -425,7 +426,8 @@ final class TextBoundaries {
                     "part a box 0 0 1 1 1 ^8;", "part a box 7 0 0 ^2 1 1;", "part a box 0 6 0 1 ^3 1;", "part a box 0 0 5 1 1 ^4;", "part a box 7 0 0 ^256 1 1;");
         });
         s.holds(4, "5 (at box) a CELL that a part told ahead has", () -> {
-            faulty(5, Told.ONE_CELL + "part b ^box 0 0 0 1 1 1;", Told.ONE_CELL + "part b box 1 0 0 1 1 1 ^box 0 0 0 8 8 8;", "part a box 7 7 7 1 1 1; part b ^box 0 0 0 8 8 8",
+            faulty(5, Told.ONE_CELL + "part b ^box 0 0 0 1 1 1;", Told.ONE_CELL + "part b box 1 0 0 1 1 1 ^box 0 0 0 8 8 8;",
+                    "part a box 7 7 7 1 1 1; part b ^box 0 0 0 8 8 8",
                     "part a box 0 0 0 8 8 8; part b ^box 7 0 7 1 1 1", Told.ONE_CELL + "part b box 1 0 0 1 1 1 ^box 0 0 0 1 1 1 box 9");
             faulty(5, "part a box 2 2 2 2 2 2; part b ^box 3 3 3 1 1 1;", "part a box 2 2 2 1 1 1 box 5 5 5 1 1 1; part b box 2 2 3 1 1 1 ^box 4 4 4 2 2 2;",
                     Told.parts(8) + "part i ^box 7 0 0 1 1 1;");
@@ -490,7 +492,8 @@ final class TextBoundaries {
 
     private void cell() {
         s.holds(6, "The PART that has a CELL", () -> {
-            HandsOrder x = Told.of("part a box 0 0 0 1 8 8; part b box 7 0 0 1 8 8; part c box 1 0 0 6 1 8; part d box 1 7 0 6 1 8; part e box 1 1 0 6 6 1; part f box 1 1 7 6 6 1;");
+            HandsOrder x = Told.of("part a box 0 0 0 1 8 8; part b box 7 0 0 1 8 8; part c box 1 0 0 6 1 8; part d box 1 7 0 6 1 8;"
+                    + " part e box 1 1 0 6 6 1; part f box 1 1 7 6 6 1;");
             s.row("cell .. 3 3", n -> x.cell(n, 3, 3), 0, -1, -1, -1, -1, -1, -1, 1, -1);
             s.row("cell 3 .. 3", n -> x.cell(3, n, 3), 2, -1, -1, -1, -1, -1, -1, 3, -1);
             s.row("cell 3 3 ..", n -> x.cell(3, 3, n), 4, -1, -1, -1, -1, -1, -1, 5, -1);

@@ -1,4 +1,6 @@
+import java.util.Arrays;
 import java.util.regex.Pattern;
+import java.util.stream.Collectors;
 
 /** Things told in texts, and how a text comes into an object: what the tests by hand share. */
 final class Told {
@@ -99,17 +101,26 @@ final class Told {
         StringBuilder text = new StringBuilder("part a box 3 3 3 1 1 1; part b");
         for (int way = 0; way < 6; way++) {
             if (way / 2 != axis) {
-                text.append(" box ").append(spot(3, 3, 3, way, 1)).append(" 1 1 1");
+                text.append(" box ").append(away(3, 3, 3, way, 1)).append(" 1 1 1");
             }
         }
         return text.append(";").toString();
     }
 
+    /** A part of one cell. */
+    static String part(String name, String spot) {
+        return "part " + name + " box " + spot + " 1 1 1;";
+    }
+
+    static String spot(int... numbers) {
+        return Arrays.stream(numbers).mapToObj(Integer::toString).collect(Collectors.joining(" "));
+    }
+
     /** The cell that is so far from another one on a way, as it stands in a text. */
-    static String spot(int x, int y, int z, int way, int far) {
+    static String away(int x, int y, int z, int way, int far) {
         int[] at = {x, y, z};
         at[way / 2] += way % 2 == 0 ? far : -far;
-        return at[0] + " " + at[1] + " " + at[2];
+        return spot(at);
     }
 
     /** The same boxes with x, y, z told in another order, and from 3 on also with east for west and so on. */
