@@ -110,6 +110,17 @@ final class NetBoundaries {
             s.row("deep", Told.of(Told.DEEP)::down, 4, 4, 3, 2, 1);
             s.row("of the shells", Told.of(Told.SHELLS)::down, 1, 1, 2);
         });
+        s.holds(16, "the fewest GOOD CUTS, each of the HEAP in which p is then, from THE WHOLE on till p is a ONE", () -> {
+            // of a, b, c together a can't leave; of a, b, d it can, once c is gone
+            HandsOrder x = Told.of("part a box 1 0 0 1 1 1 box 2 1 0 1 1 1 box 2 0 1 1 1 1; part b box 2 0 0 1 1 1 box 1 0 1 1 1 1 box 0 1 1 1 1 1;"
+                    + " part c box 0 0 1 1 1 1 box 2 1 1 1 1 1; part d box 0 1 0 1 1 1;");
+            s.row("a of all", way -> x.cut(15, 1, way), 0, 0, 0, 0, 0, 0);
+            s.row("a, b and c of all", way -> x.cut(15, 7, way), 1, 0, 1, 1, 1, 0);
+            s.row("a of those", way -> x.cut(7, 1, way), 0, 0, 0, 0, 0, 0);
+            s.row("a, b and d of all", way -> x.cut(15, 11, way), 0, 0, 0, 0, 0, 1);
+            s.row("a of those", way -> x.cut(11, 1, way), 0, 0, 1, 0, 0, 0);
+            s.row("down", x::down, 2, 2, 1, 1);
+        });
         s.holds(16, "NONE if it can't be got at, or one can't be.", () -> {
             s.row("of a never", Told.of(Told.CAGE)::down, -1, -1);
             s.row("with a never in it", Told.of(CutBoundaries.CAGE_AND_FREE)::down, -1, -1, 1);

@@ -297,6 +297,11 @@ final class ShapeBoundaries {
             s.row("both pairs", what -> x.time(15, what), 16, 8);
             String shorter = Told.shifted(Told.turned(HOOK.replace(" 8 ", " 3 "), 1), 0, 0, 4).replace("part a", "part c").replace("part b", "part d");
             s.row("a longer and a shorter one", what -> Told.of(HOOK + shorter).time(15, what), 11, 8);
+            // two pairs part northwards at once, the third upwards: alone the first two are best parted at once, by two it is all the same
+            String five = HOOK.replace(" 8 ", " 5 ");
+            String beside = Told.shifted(five, 4, 0, 0).replace("part a", "part c").replace("part b", "part d");
+            String upright = Told.shifted(Told.turned(five, 2), 4, 0, 3).replace("part a", "part e").replace("part b", "part f");
+            s.row("three pairs", what -> Told.of(five + beside + upright).time(63, what), 10, 5);
             s.row("nine", what -> Told.of(Told.parts(9)).time(511, what), 0, 0);
         });
         s.holds(34, "0 of a ONE, else the least of a GOOD CUT's MINUTES and ALONE of both", () -> {
