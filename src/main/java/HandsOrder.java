@@ -1888,7 +1888,8 @@ public final class HandsOrder {
             int nearer = along ? shift * signOf(side) : 0;
             for (int line = 0; line < LINES; line++) {
                 int front = frontOfHalf(line % EDGE - du, line / EDGE - dv);
-                if (front != NONE && restFronts[line] > front + nearer) {
+                boolean both = front != NONE && restFronts[line] != NONE;
+                if (both && restFronts[line] > front + nearer) {
                     return false;
                 }
             }
